@@ -15,6 +15,7 @@ public final class FrozenVolume {
     private static final int TABLE = 4096, DATA = 4194304;
     private static final int PLAIN_ROWS = 1, PLAIN_DATA = 2, NO_FRAGMENTS = 4, EXPORT = 8;
     private static final int SLASH = 47, DOT = 46;
+    private static final int[] TELLERS = {16, 17, 18, 0, 8, 7, 9, 6, 10, 5, 11, 4, 12, 3, 13, 2, 14, 1, 15};
 
     private final Row tape = new Row(TAPE);
     private final Row out = new Row(READ);
@@ -112,7 +113,8 @@ public final class FrozenVolume {
         volume.image.clear();
         volume.image.putAll(freezer.next.bytes, 0, freezer.next.size);
         mounted = false;
-        stray = countStray();
+        // Looked at here, since the tree and the image may be others by the time that it is asked for.
+        stray = volume.fault() == 0 ? countStray() : freezer.count;
         return volume.image.size;
     }
 
@@ -209,17 +211,21 @@ public final class FrozenVolume {
         return mounted && inode >= 1 && inode <= volume.inodes.count;
     }
 
-    /** Looks at once, since the tree and the image may have changed by the time that it is asked for. */
     private int countStray() {
-        if (volume.fault() != 0) {
-            return freezer.count;
-        }
+        Row told = freezer.next;
         int strays = 0;
         for (int number = 1; number <= freezer.count; number++) {
             Node node = freezer.nodes[number];
-            if (node != null && (differs(node) || textDiffers(node) || bytesDiffer(node) || entriesDiffer(node))) {
-                strays++;
+            boolean differs = differs(node) || node.kind == FOLDER && entriesDiffer(node);
+            if (node.kind == LINK) {
+                volume.inodes.copyTarget(number, told);
+                differs |= order(told.bytes, 0, told.size, node.target.bytes, 0, node.target.size) != 0;
+            } else if (node.kind == FILE) {
+                volume.copyBytes(number, 0, node.size, told);
+                differs |= order(told.bytes, 0, told.size, tree.files.bytes, node.at, node.size) != 0
+                        || volume.tell(number, 5) != node.size;
             }
+            strays += differs ? 1 : 0;
         }
         return strays;
     }
@@ -235,43 +241,16 @@ public final class FrozenVolume {
                 || (int) volume.tell(node.inode, 7) != node.device;
     }
 
-    private boolean textDiffers(Node node) {
-        if (node.kind != LINK) {
-            return false;
+    private boolean entriesDiffer(Node folder) {
+        Listings listings = volume.listings;
+        boolean same = listings.open(folder.inode);
+        int first = tree.first(folder);
+        for (int i = first; i < first + folder.entries; i++) {
+            Row name = tree.names[i];
+            same = same && listings.next() && listings.child() == tree.children[i].inode
+                    && listings.isNamed(name.bytes, 0, name.size);
         }
-        Row told = freezer.next;
-        volume.inodes.copyTarget(node.inode, told);
-        return order(told.bytes, 0, told.size, node.target.bytes, 0, node.target.size) != 0;
-    }
-
-    private boolean bytesDiffer(Node node) {
-        if (node.kind != FILE) {
-            return false;
-        }
-        Row told = freezer.next;
-        volume.copyBytes(node.inode, 0, node.size, told);
-        return volume.tell(node.inode, 5) != node.size
-                || order(told.bytes, 0, told.size, tree.files.bytes, node.at, node.size) != 0;
-    }
-
-    private boolean entriesDiffer(Node node) {
-        if (node.kind != FOLDER) {
-            return false;
-        }
-        if (volume.tell(node.inode, 9) != node.entries) {
-            return true;
-        }
-        Row told = freezer.next;
-        int first = tree.first(node);
-        for (int i = 0; i < node.entries; i++) {
-            int inode = volume.copyEntry(node.inode, i, told);
-            Row name = tree.names[first + i];
-            if (inode != tree.children[first + i].inode
-                    || order(told.bytes, 0, told.size, name.bytes, 0, name.size) != 0) {
-                return true;
-            }
-        }
-        return false;
+        return !same || listings.next();
     }
 
     /** Below, at or above 0, as the first bytes come before, with or behind the second ones. */
@@ -335,15 +314,21 @@ public final class FrozenVolume {
         }
 
         void putTwo(int n) {
-            putNumber(n, 2);
+            put(n);
+            put(n >> 8);
         }
 
         void putFour(int n) {
-            putNumber(n, 4);
+            put(n);
+            put(n >> 8);
+            put(n >> 16);
+            put(n >> 24);
         }
 
         void putEight(long n) {
-            putNumber(n, 8);
+            for (int i = 0; i < 8; i++) {
+                put((int) (n >> 8 * i));
+            }
         }
 
         void putHighestFirst(int n) {
@@ -369,19 +354,36 @@ public final class FrozenVolume {
         }
 
         int two(int at) {
-            return (int) number(at, 2);
+            if (at < 0 || at > size - 2) {
+                return 0;
+            }
+            return bytes[at] & 255 | (bytes[at + 1] & 255) << 8;
         }
 
         int four(int at) {
-            return (int) number(at, 4);
+            if (at < 0 || at > size - 4) {
+                return 0;
+            }
+            return bytes[at] & 255 | (bytes[at + 1] & 255) << 8 | (bytes[at + 2] & 255) << 16 | bytes[at + 3] << 24;
         }
 
         long eight(int at) {
-            return number(at, 8);
+            long eight = 0;
+            for (int k = 7; k >= 0 && at >= 0 && at <= size - 8; k--) {
+                eight = eight << 8 | bytes[at + k] & 255;
+            }
+            return eight;
         }
 
+        /** Eight bytes from 8 i on, with 0 for those behind the last one. */
         long word(int i) {
-            return i < 0 || i > size / 8 ? 0 : number(8 * i, 8);
+            long word = 0;
+            for (int k = 0; k < 8; k++) {
+                if (i >= 0 && i <= size / 8 && 8 * i + k < size) {
+                    word |= (bytes[8 * i + k] & 255L) << 8 * k;
+                }
+            }
+            return word;
         }
 
         int indexOf(int b) {
@@ -391,22 +393,6 @@ public final class FrozenVolume {
                 }
             }
             return -1;
-        }
-
-        private void putNumber(long n, int many) {
-            for (int i = 0; i < many; i++) {
-                put((int) (n >> 8 * i));
-            }
-        }
-
-        private long number(int at, int many) {
-            long n = 0;
-            for (int i = 0; i < many; i++) {
-                if (at >= 0 && at < size - i) {
-                    n |= (bytes[at + i] & 255L) << 8 * i;
-                }
-            }
-            return n;
         }
     }
 
@@ -833,14 +819,12 @@ public final class FrozenVolume {
 
         /** Takes lengths, and ranks their symbols for reading: whether they make codes. */
         boolean take(int[] from, int at, int n, boolean mayBeNone) {
-            for (int s = 0; s < lengths.length; s++) {
-                lengths[s] = s < n ? from[at + s] : 0;
+            for (int length = 0; length < 16; length++) {
+                perLength[length] = 0;
             }
-            return rank(mayBeNone);
-        }
-
-        boolean rank(boolean mayBeNone) {
-            countLengths();
+            for (int s = 0; s < n; s++) {
+                perLength[from[at + s]]++;
+            }
             int all = 0;
             int sum = 0;
             for (int length = 1; length < 16; length++) {
@@ -848,10 +832,11 @@ public final class FrozenVolume {
                 all += perLength[length];
                 sum += perLength[length] << 15 - length;
             }
-            for (int s = 0; s < lengths.length; s++) {
-                if (lengths[s] > 0) {
-                    ranked[firsts[lengths[s]]] = s;
-                    firsts[lengths[s]]++;
+            for (int s = 0; s < n; s++) {
+                int length = from[at + s];
+                if (length > 0) {
+                    ranked[firsts[length]] = s;
+                    firsts[length]++;
                 }
             }
             return sum == 32768 || all == 1 && perLength[1] == 1 || all == 0 && mayBeNone;
@@ -871,7 +856,6 @@ public final class FrozenVolume {
     /** Makes packed rows. */
     private static final class Packer {
         private static final int PART = 4096, FAR = 32768, LONGEST = 258, CANDIDATES = 16, LISTED = 572;
-        private static final int[] TELLERS = {16, 17, 18, 0, 8, 7, 9, 6, 10, 5, 11, 4, 12, 3, 13, 2, 14, 1, 15};
 
         final Row packed = new Row(BLOCK + 256);
         private final int[] heads = new int[32768];
@@ -887,7 +871,6 @@ public final class FrozenVolume {
         private final Code fixedSymbols = new Code(288);
         private final Code fixedDistances = new Code(32);
         private final int[] told = new int[320];
-        private final int[] toldMore = new int[320];
         private int tolds;
         private final int[] ranked = new int[286];
         private final int[][] weights = new int[2][LISTED];
@@ -917,7 +900,7 @@ public final class FrozenVolume {
                 makeLengths(tellers, 7);
                 putBits(stop == n ? 1 : 0, 1);
                 int more = moreBits();
-                int stored = (5 - held & 7) + 32 + 8 * (stop - p);
+                int stored = 2 + (6 - held & 7) + 32 + 8 * (stop - p);
                 int fixed = fixedBits() + more;
                 int made = madeBits() + more;
                 if (stored <= fixed && stored <= made) {
@@ -1172,8 +1155,7 @@ public final class FrozenVolume {
         }
 
         private void tellOne(int teller, int more) {
-            told[tolds] = teller;
-            toldMore[tolds] = more;
+            told[tolds] = more << 5 | teller;
             tolds++;
             tellers.counts[teller]++;
         }
@@ -1218,7 +1200,7 @@ public final class FrozenVolume {
         private int madeBits() {
             int bits = 2 + 14 + 3 * tellersUsed() + tellers.bits() + symbols.bits() + distances.bits();
             for (int i = 0; i < tolds; i++) {
-                bits += tellerMore(told[i]);
+                bits += tellerMore(told[i] & 31);
             }
             return bits;
         }
@@ -1241,8 +1223,9 @@ public final class FrozenVolume {
                 putBits(tellers.lengths[TELLERS[i]], 3);
             }
             for (int i = 0; i < tolds; i++) {
-                putBits(tellers.codes[told[i]], tellers.lengths[told[i]]);
-                putBits(toldMore[i], tellerMore(told[i]));
+                int teller = told[i] & 31;
+                putBits(tellers.codes[teller], tellers.lengths[teller]);
+                putBits(told[i] >> 5, tellerMore(teller));
             }
         }
 
@@ -1276,8 +1259,6 @@ public final class FrozenVolume {
 
     /** Reads packed rows, whatever bytes they are. */
     private static final class Unpacker {
-        private static final int[] TELLERS = {16, 17, 18, 0, 8, 7, 9, 6, 10, 5, 11, 4, 12, 3, 13, 2, 14, 1, 15};
-
         private byte[] source;
         private int bit;
         private int stop;
@@ -1293,12 +1274,14 @@ public final class FrozenVolume {
         private final Code fixedSymbols = new Code(288);
         private final Code fixedDistances = new Code(32);
         private final int[] lengths = new int[320];
+        private int symbolCount;
+        private int distanceCount;
 
         Unpacker() {
             fixedSymbols.fixSymbols();
-            fixedSymbols.rank(false);
+            fixedSymbols.take(fixedSymbols.lengths, 0, 288, false);
             fixedDistances.fixDistances();
-            fixedDistances.rank(false);
+            fixedDistances.take(fixedDistances.lengths, 0, 32, false);
         }
 
         /** Unpacks n bytes, to most bytes at the most: how many that made, or -1 if it is no packed row of so few. */
@@ -1323,7 +1306,16 @@ public final class FrozenVolume {
             boolean last = false;
             for (int k = 0; k < 8 * n && !last && !failed; k++) {
                 last = bits(1) == 1;
-                takePart(bits(2));
+                int sort = bits(2);
+                if (sort == 0) {
+                    copyStored();
+                } else if (sort == 1) {
+                    takeSymbols(fixedSymbols, fixedDistances);
+                } else if (sort == 2 && takeTellers() && takeLengths() && takeCodes()) {
+                    takeSymbols(symbols, distances);
+                } else {
+                    failed = true;
+                }
             }
             bit = bit + 7 & -8;
             if (failed || !last || bit != stop - 32) {
@@ -1340,21 +1332,6 @@ public final class FrozenVolume {
             return told == check;
         }
 
-        private void takePart(int sort) {
-            if (failed) {
-                return;
-            }
-            if (sort == 0) {
-                copyStored();
-            } else if (sort == 1) {
-                takeSymbols(fixedSymbols, fixedDistances);
-            } else if (sort == 2 && takeLengths()) {
-                takeSymbols(symbols, distances);
-            } else {
-                failed = true;
-            }
-        }
-
         private void copyStored() {
             bit = bit + 7 & -8;
             int n = bits(16);
@@ -1368,23 +1345,18 @@ public final class FrozenVolume {
             at += n;
         }
 
-        private boolean takeLengths() {
-            int h = bits(5) + 257;
-            int d = bits(5) + 1;
+        private boolean takeTellers() {
+            symbolCount = bits(5) + 257;
+            distanceCount = bits(5) + 1;
             int c = bits(4) + 4;
-            if (h > 286 || d > 30) {
-                return false;
-            }
             for (int i = 0; i < 19; i++) {
                 lengths[TELLERS[i]] = i < c ? bits(3) : 0;
             }
-            if (failed || !tellers.take(lengths, 0, 19, false) || !takeTold(h + d)) {
-                return false;
-            }
-            return lengths[256] > 0 && symbols.take(lengths, 0, h, false) && distances.take(lengths, h, d, true);
+            return !failed && symbolCount <= 286 && distanceCount <= 30 && tellers.take(lengths, 0, 19, false);
         }
 
-        private boolean takeTold(int all) {
+        private boolean takeLengths() {
+            int all = symbolCount + distanceCount;
             int i = 0;
             for (int k = 0; k < all && i < all; k++) {
                 int teller = symbol(tellers);
@@ -1410,43 +1382,42 @@ public final class FrozenVolume {
             return true;
         }
 
+        private boolean takeCodes() {
+            return lengths[256] > 0 && symbols.take(lengths, 0, symbolCount, false)
+                    && distances.take(lengths, symbolCount, distanceCount, true);
+        }
+
         /** Each symbol but the last one makes a byte, so there can be no more of them than there is room. */
         private void takeSymbols(Code bySymbols, Code byDistances) {
-            for (int k = limit - at; k >= 0; k--) {
+            for (int k = limit - at; k >= 0 && !failed; k--) {
                 int symbol = symbol(bySymbols);
-                if (failed || symbol == 256) {
+                if (symbol == 256) {
                     return;
                 }
-                if (symbol > 256) {
-                    copyMatch(symbol, byDistances);
-                } else if (at < limit) {
-                    made[at] = (byte) symbol;
-                    at++;
+                if (symbol < 256) {
+                    putByte(symbol);
                 } else {
-                    failed = true;
-                }
-                if (failed) {
-                    return;
+                    int length = lengthBase(symbol) + bits(lengthMore(symbol));
+                    int d = symbol(byDistances);
+                    int distance = distanceBase(d) + bits(distanceMore(d));
+                    failed |= symbol > 285 || d > 29;
+                    copyBack(length, distance);
                 }
             }
             failed = true;
         }
 
-        private void copyMatch(int symbol, Code byDistances) {
-            int length = symbol - 254;
-            if (symbol == 285) {
-                length = 258;
-            } else if (symbol > 264) {
-                int e = (symbol - 261) / 4;
-                length = 3 + (4 + (symbol - 261) % 4 << e) + bits(e);
+        private void putByte(int b) {
+            if (failed || at >= limit) {
+                failed = true;
+                return;
             }
-            int d = symbol(byDistances);
-            int distance = d + 1;
-            if (d > 3 && d < 30) {
-                int e = d / 2 - 1;
-                distance = 1 + (2 + d % 2 << e) + bits(e);
-            }
-            if (failed || symbol > 285 || d > 29 || distance > at - begin || distance > window || length > limit - at) {
+            made[at] = (byte) b;
+            at++;
+        }
+
+        private void copyBack(int length, int distance) {
+            if (failed || distance > at - begin || distance > window || length > limit - at) {
                 failed = true;
                 return;
             }
@@ -1454,6 +1425,22 @@ public final class FrozenVolume {
                 made[at] = made[at - distance];
                 at++;
             }
+        }
+
+        private static int lengthMore(int symbol) {
+            return symbol < 265 || symbol > 284 ? 0 : (symbol - 261) / 4;
+        }
+
+        private static int lengthBase(int symbol) {
+            return symbol < 265 ? symbol - 254 : symbol > 284 ? 258 : 3 + (4 + (symbol - 261) % 4 << (symbol - 261) / 4);
+        }
+
+        private static int distanceMore(int d) {
+            return d < 4 || d > 29 ? 0 : d / 2 - 1;
+        }
+
+        private static int distanceBase(int d) {
+            return d < 4 || d > 29 ? d + 1 : 1 + (2 + d % 2 << d / 2 - 1);
         }
 
         private int bits(int many) {
@@ -1952,17 +1939,17 @@ public final class FrozenVolume {
             return kind(places[number]);
         }
 
+        /** One byte is enough: no inode has a greater type. */
         int type(int at) {
-            return row.two(at);
+            return row.bytes[at];
         }
 
         int kind(int at) {
-            int type = type(at);
-            return type > KINDS ? type - KINDS : type;
+            return row.bytes[at] > KINDS ? row.bytes[at] - KINDS : row.bytes[at];
         }
 
         boolean isExtended(int at) {
-            return type(at) > KINDS;
+            return row.bytes[at] > KINDS;
         }
 
         /** The number of the inode that begins just there in the row; 0 if none does. */
@@ -2040,7 +2027,8 @@ public final class FrozenVolume {
         }
 
         long blockCount(int at) {
-            return fileSize(at) / block + (rest(at) > 0 && fragment(at) == ONES ? 1 : 0);
+            long size = fileSize(at);
+            return size / block + (size % block > 0 && fragment(at) == ONES ? 1 : 0);
         }
 
         int blockNumber(int at, int i) {
@@ -2323,7 +2311,7 @@ public final class FrozenVolume {
 
         final Row image = new Row(IMAGE);
         final Inodes inodes = new Inodes();
-        private final Listings listings = new Listings(inodes);
+        final Listings listings = new Listings(inodes);
         private final PieceRow fragments = new PieceRow(16 * TABLE);
         private final PieceRow exports = new PieceRow(8 * TABLE);
         private final PieceRow ids = new PieceRow(4 * TABLE);
