@@ -30,6 +30,7 @@ public final class FaultTest {
         rowLimits();
         fragmentFaults();
         inodeFaults();
+        everyType();
         fileFaults();
         exportFaults();
         listingFaults();
@@ -266,6 +267,15 @@ public final class FaultTest {
         CheckKit.due("65536 bytes", CheckKit.mount(withFolderRow(full, full, full, full, full, full, full, full)), 0);
         CheckKit.due("65537 bytes", CheckKit.mount(
                 withFolderRow(full, full, full, full, full, full, full, full, piece(1))), 3);
+        byte[] match = PackKit.pack(new byte[300]);
+        PackKit.Bits bits = new PackKit.Bits();
+        bits.number(1, 1);
+        bits.number(1, 2);
+        PackKit.putSymbols(bits, java.util.List.of(new int[] {3, 1}), PackKit.fixedSymbols(), PackKit.fixedDistances());
+        byte[] far = PackKit.wrap(120, 156, bits.bytes(), PackKit.check(new byte[3]));
+        CheckKit.due("a second packed piece", CheckKit.mount(withFolderRow(full, ImageKit.join(two(match.length), match))), 0);
+        CheckKit.due("a match from one piece into the one before", CheckKit.mount(
+                withFolderRow(full, ImageKit.join(two(far.length), far))), 3);
         byte[] crumbs = new byte[0];
         for (int i = 0; i < 30000; i++) {
             crumbs = crumbs.length > 90000 ? crumbs : i == 0 ? piece(1) : ImageKit.join(crumbs, crumbs);
@@ -334,6 +344,41 @@ public final class FaultTest {
             int told = link.addListing(ImageKit.head(1, at, 2), ImageKit.entry(at, 0, 3, "l"));
             link.root = ImageKit.reference(link.addFolder(1, told, link.folders.size(), 2, 3));
             CheckKit.due("a target of " + size, CheckKit.mount(link.image()), size == 16384 ? 0 : 5);
+        }
+    }
+
+    /** Each type by itself, with its ones if it is extended, and with others. */
+    private static void everyType() {
+        byte[][] bodies = {
+            ImageKit.join(four(0), four(2), two(3), two(0), four(1)),
+            ImageKit.join(four(0), four(-1), four(0), four(0)),
+            ImageKit.join(four(1), four(3), CheckKit.bytes("abc")),
+            ImageKit.join(four(1), four(7)),
+            ImageKit.join(four(1), four(8)),
+            four(1),
+            four(1),
+            ImageKit.join(four(2), four(3), four(0), four(1), two(0), two(0)),
+            ImageKit.join(eight(0), eight(0), eight(0), four(1), four(-1), four(0)),
+        };
+        for (int type = 1; type <= 14; type++) {
+            for (int ones = -1; ones <= (type > 7 ? 0 : -1); ones++) {
+                ImageKit one = new ImageKit();
+                byte[] body = bodies[type < 10 ? type - 1 : type - 8];
+                int at = one.addInode(type, 2, body, type > 7 ? four(ones) : new byte[0]);
+                int kind = (type - 1) % 7 + 1;
+                int told = one.addListing(ImageKit.head(1, at, 2), ImageKit.entry(at, 0, kind, "n"));
+                one.root = ImageKit.reference(one.addFolder(1, told, one.folders.size(), kind == 1 ? 3 : 2, 3));
+                CheckKit.due("type " + type + ", ones " + ones, CheckKit.mount(one.image()), ones < 0 ? 0 : 5);
+                one.inodes.write(0);
+                CheckKit.due("type " + type + ", a byte behind", CheckKit.mount(one.image()), 5);
+            }
+        }
+        for (int type = 1; type <= 14; type++) {
+            ImageKit last = new ImageKit();
+            rootAlone(last);
+            byte[] body = bodies[type < 10 ? type - 1 : type - 8];
+            last.addInode(type, 2, Arrays.copyOf(body, body.length - 1));
+            CheckKit.due("type " + type + ", cut short", CheckKit.mount(last.image()), 5);
         }
     }
 

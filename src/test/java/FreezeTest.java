@@ -7,6 +7,8 @@ public final class FreezeTest {
         rootAlone();
         everyOption();
         packedRows();
+        farMatches();
+        mixedParts();
         sharedAndZeros();
         fragmentEdges();
         wideFolders();
@@ -86,6 +88,43 @@ public final class FreezeTest {
                 CheckKit.due("the published unpacking", inflater.inflate(back), size);
                 CheckKit.due("the published unpacking", back, row);
             }
+        }
+    }
+
+    private static void checkRow(String what, byte[] row) {
+        FreezeKit kit = new FreezeKit();
+        kit.make(0, 2, 0, "f", "");
+        kit.write(1, row);
+        kit.check(what, 16, 4, 0);
+    }
+
+    /** The same bytes again, just as far away as a match may be, and one byte farther. */
+    private static void farMatches() {
+        for (int distance = 32766; distance <= 32770; distance++) {
+            byte[] row = PackKit.sample(new Random(5), 0, distance + 600);
+            System.arraycopy(row, 0, row, distance, 600);
+            checkRow("matches " + distance + " away", row);
+        }
+        byte[] row = PackKit.sample(new Random(6), 0, 4000);
+        for (int k = 0; k < 20; k++) {
+            // Twenty candidates, the farthest of which are the longest: too many to look at them all.
+            System.arraycopy(CheckKit.bytes("abcdefghijklmnopqrstuvwxyz"), 0, row, 100 + 60 * k, 26 - k);
+        }
+        System.arraycopy(CheckKit.bytes("abcdefghijklmnopqrstuvwxyz"), 0, row, 3000, 26);
+        checkRow("more candidates than are looked at", row);
+    }
+
+    /** Parts of all sorts behind each other, so that stored ones begin at any bit of a byte. */
+    private static void mixedParts() {
+        for (int seed = 0; seed < 60; seed++) {
+            Random random = new Random(seed);
+            byte[] row = new byte[0];
+            for (int part = 0; part < 4; part++) {
+                row = FreezeKit.join(row, PackKit.sample(random, part % 2 == 0 ? 1 + random.nextInt(5) : 0, 4096));
+            }
+            checkRow("parts of all sorts, " + seed, row);
+            row = FreezeKit.join(PackKit.sample(random, 5, 4096), PackKit.sample(random, seed % 6, 1 + random.nextInt(40)));
+            checkRow("a short last part, " + seed, row);
         }
     }
 

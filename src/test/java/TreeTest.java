@@ -84,6 +84,8 @@ public final class TreeTest {
             CheckKit.due("make " + i, CheckKit.make(x, 0, 2, "n" + i), i);
         }
         CheckKit.due("make 2000", CheckKit.make(x, 0, 2, "n2000"), FULL);
+        CheckKit.due("own 1999", x.own(1999, 420, 0, 0, 0), 0);
+        CheckKit.due("own 2000", x.own(2000, 420, 0, 0, 0), BAD);
         CheckKit.due("make what is there, though full", CheckKit.make(x, 0, 2, "n5"), THERE);
         CheckKit.due("tie 2000", CheckKit.tie(x, 0, 1, "t"), 2);
         CheckKit.due("tie 2001", CheckKit.tie(x, 0, 1, "u"), FULL);

@@ -117,6 +117,19 @@ public final class UnpackTest {
             bad("stored, cut at " + n, Arrays.copyOf(packed, n), row.length);
         }
         bad("stored, one byte more than may be", wrap(stored(1, row, 0), row), row.length - 1);
+        int[][] zeros = new int[234][];
+        Arrays.fill(zeros, new int[] {285, 0, 0, 0, 0, 0});
+        zeros[0] = new int[] {0};
+        zeros[233] = new int[] {256};
+        PackKit.Bits twice = fixed(zeros);
+        twice.bits.setCharAt(0, '0');
+        int begun = twice.bits.length() + 3;
+        twice.bits.append("100").append("0".repeat((8 - begun % 8) % 8));
+        twice.number(20000, 16);
+        twice.number(45535, 16);
+        twice.number(0, 16);
+        twice.bits.append("0".repeat(8 * 19998));
+        bad("stored, far more than may be", wrap(twice, new byte[65536]), 65536);
         bad("no last part", wrap(stored(0, row, 0), row), row.length);
         PackKit.Bits sort = new PackKit.Bits();
         sort.number(7, 3);
@@ -170,6 +183,9 @@ public final class UnpackTest {
         bad("a match that runs over", wrap(fixed(new int[] {7}, new int[] {259, 0, 0, 0, 0, 0}, new int[] {256}), same(7, 6)), 5);
         bad("a byte that runs over", wrap(fixed(new int[] {7}, new int[] {7}, new int[] {256}), same(7, 2)), 1);
         bad("no 256", wrap(fixed(new int[] {7}), same(7, 1)), 1);
+        bad("symbol 286 as the last bits", wrap(fixed(new int[] {7}, new int[] {286, 0, 0, 0, 0, 0}), same(7, 1)), 1);
+        bad("a match too far, which does not count", wrap(fixed(new int[] {7}, new int[] {257, 0, 0, 1, 0, 0}, new int[] {256}), same(7, 1)), 1);
+        bad("a match too long, which does not count", wrap(fixed(new int[] {7}, new int[] {257, 0, 0, 0, 0, 0}, new int[] {256}), same(7, 1)), 1);
     }
 
     private static void distances() {
@@ -194,10 +210,11 @@ public final class UnpackTest {
                 bad("distance " + distance + " beyond the first byte", wrap(bits, new byte[distance + 5]), distance + 5);
             }
         }
-        for (int d = 30; d < 32; d++) {
-            PackKit.Bits bits = stored(0, row, 0);
+        byte[] zeros = new byte[5000];
+        for (int d = 29; d < 32; d++) {
+            PackKit.Bits bits = stored(0, zeros, 0);
             bits.bits.append(fixed(new int[] {260, 0, 0, d, 0, 0}, new int[] {256}).bits);
-            bad("distance symbol " + d, wrap(bits, Arrays.copyOf(row, row.length + 6)), row.length + 6);
+            bad("distance symbol " + d, wrap(bits, Arrays.copyOf(zeros, 5006)), 5006);
         }
     }
 
@@ -402,6 +419,7 @@ public final class UnpackTest {
         }
         bad("a part that ends elsewhere", wrap(both, one), 1);
         bad("bits that are no beginning of a code", made(with(257, 256, 1), with(1), "1111111111111111", none), 1);
+        bad("the same, where a byte 0 would do", made(with(257, 256, 1), with(1), "111111111111111" + "0", new byte[1]), 1);
         byte[] four = same(65, 4);
         good("one distance of length 1", made(with(258, 65, 2, 256, 2, 257, 1), with(1, 0, 1), "10" + "0" + "0" + "11", four), four);
         bad("its other code", made(with(258, 65, 2, 256, 2, 257, 1), with(1, 0, 1), "10" + "0" + "1" + "11", four), 4);
