@@ -873,7 +873,7 @@ public final class FrozenVolume {
         private final int[] told = new int[320];
         private int tolds;
         private final int[] ranked = new int[286];
-        private final int[][] weights = new int[2][LISTED];
+        private final int[] weights = new int[2 * LISTED];
         private final boolean[] pairs = new boolean[15 * LISTED];
         private int hold;
         private int held;
@@ -1011,12 +1011,11 @@ public final class FrozenVolume {
             if (length == LONGEST) {
                 return 285;
             }
-            int e = lengthMore(length);
+            int e = bitsBehindLength(length);
             return length < 11 ? length + 254 : 257 + 4 * e + (length - 3 >> e);
         }
 
-        /** How many bits behind its symbol a length has. */
-        private static int lengthMore(int length) {
+        private static int bitsBehindLength(int length) {
             int e = 0;
             for (int k = 0; k < 5 && length < LONGEST && length - 3 >> e + 3 > 0; k++) {
                 e++;
@@ -1025,11 +1024,11 @@ public final class FrozenVolume {
         }
 
         private static int distanceSymbol(int distance) {
-            int e = distanceMore(distance);
+            int e = bitsBehindDistance(distance);
             return distance < 5 ? distance - 1 : 2 * e + (distance - 1 >> e);
         }
 
-        private static int distanceMore(int distance) {
+        private static int bitsBehindDistance(int distance) {
             int e = 0;
             for (int k = 0; k < 13 && distance - 1 >> e + 2 > 0; k++) {
                 e++;
@@ -1071,28 +1070,22 @@ public final class FrozenVolume {
 
         /** Merges the symbols with the pairs of the list before, and answers how many items that makes. */
         private int makeList(int[] counts, int m, int list, int sizeBefore) {
-            int[] items = weights[list & 1];
-            int[] last = weights[list + 1 & 1];
+            int here = (list & 1) * LISTED;
+            int last = LISTED - here;
             int size = m + sizeBefore / 2;
             int single = 0;
             for (int i = 0; i < size; i++) {
                 int pair = 2 * (i - single);
-                boolean isPair = single == m;
-                if (!isPair && pair + 1 < sizeBefore) {
-                    isPair = last[pair] + last[pair + 1] < counts[ranked[single]];
-                }
+                int both = pair + 1 < sizeBefore ? weights[last + pair] + weights[last + pair + 1] : Integer.MAX_VALUE;
+                boolean isPair = single == m || both < counts[ranked[single]];
                 pairs[list * LISTED + i] = isPair;
-                if (isPair) {
-                    items[i] = last[pair] + last[pair + 1];
-                } else {
-                    items[i] = counts[ranked[single]];
-                    single++;
-                }
+                weights[here + i] = isPair ? both : counts[ranked[single]];
+                single += isPair ? 0 : 1;
             }
             return size;
         }
 
-        /** Since symbols and pairs stand in their order in each list, it is enough to know how many of each are taken. */
+        /** Symbols and pairs stand in their order in each list: it is enough to know how many of each are taken. */
         private void takeLists(int[] lengths, int m, int limit) {
             int taken = 2 * m - 2;
             for (int list = limit - 1; list >= 0; list--) {
@@ -1160,7 +1153,7 @@ public final class FrozenVolume {
             tellers.counts[teller]++;
         }
 
-        private static int tellerMore(int teller) {
+        private static int bitsBehindTeller(int teller) {
             return teller < 16 ? 0 : teller == 16 ? 2 : teller == 17 ? 3 : 7;
         }
 
@@ -1179,7 +1172,7 @@ public final class FrozenVolume {
             int bits = 0;
             for (int i = 0; i < tokens; i++) {
                 if (tokenLengths[i] > 0) {
-                    bits += lengthMore(tokenLengths[i]) + distanceMore(tokenValues[i]);
+                    bits += bitsBehindLength(tokenLengths[i]) + bitsBehindDistance(tokenValues[i]);
                 }
             }
             return bits;
@@ -1200,7 +1193,7 @@ public final class FrozenVolume {
         private int madeBits() {
             int bits = 2 + 14 + 3 * tellersUsed() + tellers.bits() + symbols.bits() + distances.bits();
             for (int i = 0; i < tolds; i++) {
-                bits += tellerMore(told[i] & 31);
+                bits += bitsBehindTeller(told[i] & 31);
             }
             return bits;
         }
@@ -1225,7 +1218,7 @@ public final class FrozenVolume {
             for (int i = 0; i < tolds; i++) {
                 int teller = told[i] & 31;
                 putBits(tellers.codes[teller], tellers.lengths[teller]);
-                putBits(told[i] >> 5, tellerMore(teller));
+                putBits(told[i] >> 5, bitsBehindTeller(teller));
             }
         }
 
@@ -1236,11 +1229,11 @@ public final class FrozenVolume {
                 int symbol = length == 0 ? value : lengthSymbol(length);
                 putBits(bySymbols.codes[symbol], bySymbols.lengths[symbol]);
                 if (length > 0) {
-                    int more = lengthMore(length);
+                    int more = bitsBehindLength(length);
                     putBits(length - 3 & (1 << more) - 1, more);
                     int distance = distanceSymbol(value);
                     putBits(byDistances.codes[distance], byDistances.lengths[distance]);
-                    more = distanceMore(value);
+                    more = bitsBehindDistance(value);
                     putBits(value - 1 & (1 << more) - 1, more);
                 }
             }
@@ -1432,7 +1425,10 @@ public final class FrozenVolume {
         }
 
         private static int lengthBase(int symbol) {
-            return symbol < 265 ? symbol - 254 : symbol > 284 ? 258 : 3 + (4 + (symbol - 261) % 4 << (symbol - 261) / 4);
+            if (symbol < 265) {
+                return symbol - 254;
+            }
+            return symbol > 284 ? 258 : 3 + (4 + (symbol - 261) % 4 << (symbol - 261) / 4);
         }
 
         private static int distanceMore(int d) {
@@ -1896,7 +1892,10 @@ public final class FrozenVolume {
         }
     }
 
-    /** The inodes of a mounted image: where each one begins, and what stands in it. */
+    /**
+     * The inodes of a mounted image: where each one begins, and what stands in it.
+     * What is added to such a place is where the field stands among those that the form tells.
+     */
     private static final class Inodes {
         private static final int[] FIXED = {0, 32, 32, 24, 24, 24, 20, 20, 40, 56, 24, 28, 28, 24, 24};
 
@@ -2307,7 +2306,10 @@ public final class FrozenVolume {
 
     /** The image, what is to be looked at before it is mounted, and the answers when it is. */
     private static final class Volume {
-        private static final int FRAGMENT_LIST = 80, EXPORT_LIST = 88, ID_LIST = 48, BROKEN = -1;
+        private static final int INODE_COUNT = 4, BLOCK_BYTES = 12, FRAGMENT_COUNT = 16, PACKING = 20, LOG = 22;
+        private static final int FLAGS = 24, ID_COUNT = 26, VERSION = 28, ROOT = 32, USED = 40, ID_LIST = 48;
+        private static final int NO_LIST = 56, INODE_ROW = 64, FOLDER_ROW = 72, FRAGMENT_LIST = 80, EXPORT_LIST = 88;
+        private static final int BROKEN = -1;
 
         final Row image = new Row(IMAGE);
         final Inodes inodes = new Inodes();
@@ -2348,7 +2350,7 @@ public final class FrozenVolume {
             if (!listings.hold()) {
                 return 6;
             }
-            root = inodes.numberBy(image.eight(32));
+            root = inodes.numberBy(image.eight(ROOT));
             if (!listings.makeTree(root)) {
                 return 7;
             }
@@ -2472,21 +2474,23 @@ public final class FrozenVolume {
             if (image.size < SUPER) {
                 return false;
             }
-            long log = image.two(22);
-            long inodeRow = image.eight(64);
-            long folderRow = image.eight(72);
-            long usedBytes = image.eight(40);
-            if (image.four(0) != MAGIC || image.two(20) != 1 || image.four(28) != 4 || image.eight(56) != ONES
-                    || log < 12 || log > 16 || image.four(12) != 1 << log || (image.two(24) & 1024) != 0) {
+            int log = image.two(LOG);
+            if (image.four(0) != MAGIC || image.two(PACKING) != 1 || image.four(VERSION) != 4
+                    || image.eight(NO_LIST) != ONES || (image.two(FLAGS) & 1024) != 0
+                    || log < 12 || log > 16 || image.four(BLOCK_BYTES) != 1 << log) {
                 return false;
             }
-            inodeCount = image.four(4);
-            fragmentCount = image.four(16);
-            idCount = image.two(26);
+            inodeCount = image.four(INODE_COUNT);
+            fragmentCount = image.four(FRAGMENT_COUNT);
+            idCount = image.two(ID_COUNT);
             if (inodeCount < 1 || inodeCount > TABLE || fragmentCount < 0 || fragmentCount > TABLE
                     || idCount < 1 || idCount > TABLE || fragmentCount == 0 != (image.eight(FRAGMENT_LIST) == ONES)) {
                 return false;
             }
+            // What is too great for a long's sign is below 0 here, and so below what it may not be below.
+            long inodeRow = image.eight(INODE_ROW);
+            long folderRow = image.eight(FOLDER_ROW);
+            long usedBytes = image.eight(USED);
             if (inodeRow < SUPER || folderRow < inodeRow || usedBytes < folderRow || usedBytes > image.size) {
                 return false;
             }
