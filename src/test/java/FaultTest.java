@@ -40,6 +40,8 @@ public final class FaultTest {
         manyListings();
         dataFaults();
         dataLimit();
+        manyFragments();
+        fileOne();
         firstOfTwo();
         whatIsMounted();
         CheckKit.finish("FaultTest");
@@ -397,6 +399,7 @@ public final class FaultTest {
         inode("how many bytes are zeros is not looked at", 0, f, 32, eight(-1));
         inode("a begin without blocks is not looked at", 0, f, 16, eight(-1));
         inode("a block number with a bit above", 5, x, 32, four(4096 + 3 * AS_IS));
+        inode("a block number with the least bit above", 5, x, 32, four(4096 + 2 * AS_IS));
         inode("a block number with the highest bit", 5, x, 32, four(Integer.MIN_VALUE + 4096 + AS_IS));
         inode("a block number of no bytes as they are", 5, x, 32, four(AS_IS));
         inode("a block number above a block", 5, x, 32, four(4097 + AS_IS));
@@ -532,6 +535,24 @@ public final class FaultTest {
             CheckKit.due("indexes that rise, fall, stay, or leave one out: " + k, CheckKit.mount(wide.image()),
                     k == 0 || k == 3 ? 0 : 6);
         }
+        for (int size : new int[] {256, 257}) {
+            ImageKit named = new ImageKit();
+            String name = "n".repeat(Math.min(256, size));
+            int file = named.addLongFile(2, 0, -1, 0, 0, 2);
+            byte[] listing = ImageKit.join(ImageKit.head(1, file, 2), ImageKit.entry(file, 0, 2, "a"),
+                    ImageKit.head(1, file, 2), ImageKit.entry(file, 0, 2, name));
+            named.addListing(listing);
+            named.root = ImageKit.reference(named.addInode(8, 1, four(2), four(listing.length + 3), four(0), four(3), two(1),
+                    two(0), four(-1), four(21), four(0), four(size - 1), CheckKit.bytes("n".repeat(size))));
+            CheckKit.due("an index's name of " + size, CheckKit.mount(named.image()), size == 256 ? 0 : 5);
+        }
+        ImageKit first = new ImageKit();
+        int one = first.addLongFile(2, 0, -1, 0, 0, 1);
+        byte[] alone = ImageKit.join(ImageKit.head(1, one, 2), ImageKit.entry(one, 0, 2, "a"));
+        first.addListing(alone);
+        first.root = ImageKit.reference(first.addInode(8, 1, four(2), four(alone.length + 3), four(0), four(3), two(1), two(0),
+                four(-1), four(0), four(0), four(0), CheckKit.bytes("a")));
+        CheckKit.due("an index of the first header, with its name", CheckKit.mount(first.image()), 6);
         ImageKit empty = new ImageKit();
         empty.root = ImageKit.reference(empty.addInode(8, 1, four(2), four(3), four(-1), four(2), two(1), two(0),
                 four(-1), four(0), four(0), four(0), CheckKit.bytes("a")));
@@ -674,6 +695,30 @@ public final class FaultTest {
             many.addListing(told);
             many.root = ImageKit.reference(many.addFolder(1, 0, told.length, 2, many.made + 2));
             CheckKit.due("blocks that come to 4194304 and " + more, CheckKit.mount(many.image()), more == 0 ? 0 : 8);
+        }
+    }
+
+    /** All of the same byte: as many fragments as may be, and one more. */
+    private static void manyFragments() {
+        for (int many : new int[] {512, 513, 1024, 1025}) {
+            ImageKit kits = new ImageKit();
+            int begin = kits.addData(new byte[] {1});
+            for (int i = 0; i < many; i++) {
+                kits.fragments.add(new long[] {begin, 1 + AS_IS, 0});
+            }
+            int at = kits.addFile(2, 0, many - 1, 0, 1);
+            CheckKit.due(many + " fragments", mountOf(kits, at), many <= 1024 ? 0 : 8);
+        }
+    }
+
+    /** The root need not have the number 1: a file may, and is looked at as well. */
+    private static void fileOne() {
+        for (int wrong = 0; wrong < 2; wrong++) {
+            ImageKit one = new ImageKit();
+            int at = one.addFile(1, one.addData(PackKit.pack(new byte[4096 - wrong])), -1, 0, 4096, PackKit.pack(new byte[4096 - wrong]).length);
+            int told = one.addListing(ImageKit.head(1, at, 1), ImageKit.entry(at, 0, 2, "f"));
+            one.root = ImageKit.reference(one.addFolder(2, told, one.folders.size(), 2, 3));
+            CheckKit.due("a file with the number 1", CheckKit.mount(one.image()), wrong == 0 ? 0 : 8);
         }
     }
 

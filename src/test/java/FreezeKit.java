@@ -144,6 +144,10 @@ final class FreezeKit {
     void check(String what, int log, int options, int time) {
         byte[] want = freeze(log, options, time);
         String call = what + ": freeze(" + log + ", " + options + ")";
+        if (inodes.total > 65536 || folders.total > 65536 || want.length > 131072) {
+            CheckKit.due(call, volume.freeze(log, options, time), FrozenVolume.FULL);
+            return;
+        }
         CheckKit.due(call, volume.freeze(log, options, time), want.length);
         CheckKit.due(call, CheckKit.image(volume), want);
         CheckKit.due(call + ", astray", volume.astray(), 0);
@@ -238,6 +242,11 @@ final class FreezeKit {
             order.add(node);
             node.number = order.size();
         }
+    }
+
+    /** How many bytes the inode row had, unpacked. */
+    int inodeBytes() {
+        return inodes.total;
     }
 
     private void putData(int block, boolean packs, boolean fragmented) {

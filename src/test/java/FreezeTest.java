@@ -1,3 +1,4 @@
+import java.util.Arrays;
 import java.util.Random;
 
 /** Promises 12 and 13: freeze, byte for byte, and astray. */
@@ -9,13 +10,17 @@ public final class FreezeTest {
         packedRows();
         farMatches();
         mixedParts();
+        ties();
         sharedAndZeros();
         fragmentEdges();
         wideFolders();
         longNames();
         fullPieces();
         manyIds();
+        longTables();
         randomTrees();
+        fullRow();
+        again();
         tooMuch();
         astray();
         CheckKit.finish("FreezeTest");
@@ -126,6 +131,22 @@ public final class FreezeTest {
             row = FreezeKit.join(PackKit.sample(random, 5, 4096), PackKit.sample(random, seed % 6, 1 + random.nextInt(40)));
             checkRow("a short last part, " + seed, row);
         }
+    }
+
+    /** Last parts for which two sorts take just as many bits. */
+    private static void ties() {
+        Random random = new Random(11);
+        for (int k = 0; k < 500; k++) {
+            byte[] first = new byte[4096];
+            Arrays.fill(first, 0, 1 + random.nextInt(4000), (byte) random.nextInt(256));
+            byte[] last = new byte[k % 2 == 0 ? 20 + random.nextInt(20) : 1 + random.nextInt(150)];
+            for (int i = 0; i < last.length; i++) {
+                last[i] = (byte) (k % 2 == 0 ? 144 + random.nextInt(112) : random.nextInt(2 + k / 10));
+            }
+            checkRow("a last part, " + k, FreezeKit.join(first, last));
+        }
+        CheckKit.due("ties with stored parts", PackKit.storedTies > 0 ? 1 : 0, 1);
+        CheckKit.due("ties of fixed and made parts", PackKit.fixedTies > 0 ? 1 : 0, 1);
     }
 
     private static void sharedAndZeros() {
@@ -253,6 +274,55 @@ public final class FreezeTest {
                 }
             }
             kit.check("random tree " + seed, 12 + random.nextInt(5), random.nextInt(16), random.nextInt());
+        }
+    }
+
+    /** More export entries, and more ids, than one piece has. */
+    private static void longTables() {
+        FreezeKit kit = new FreezeKit();
+        for (int i = 0; i < 1100; i++) {
+            kit.make(0, 6, 0, "p" + i, "");
+            kit.own(i + 1, 420, 3 * i + 1, 3 * i + 2, 0);
+        }
+        kit.check("long tables", 12, 8, 0);
+        kit.check("long tables", 12, 9, 0);
+    }
+
+    /** An inode row of 65535, 65536 and 65537 bytes. */
+    private static void fullRow() {
+        FreezeKit kit = new FreezeKit();
+        for (int i = 0; i < 7; i++) {
+            kit.make(0, 3, 0, "link" + i, "t".repeat(4096));
+        }
+        for (int i = 0; i < 1750; i++) {
+            kit.make(0, 6, 0, "p" + i, "");
+        }
+        kit.freeze(12, 1, 0);
+        int left = 65536 - kit.inodeBytes() - 25;
+        int last = kit.make(0, 3, 0, "last", "t".repeat(left));
+        kit.freeze(12, 1, 0);
+        CheckKit.due("bytes of the inode row", kit.inodeBytes(), 65535);
+        kit.check("a row of 65535", 12, 1, 0);
+        for (int more = 1; more <= 2; more++) {
+            // The same node with one byte more: its number stays that of its name.
+            CheckKit.drop(kit.volume, 0, "last");
+            FreezeKit.Node gone = kit.nodes.get(0).entries.remove("last");
+            CheckKit.due("the link", gone == kit.nodes.get(last) ? 1 : 0, 1);
+            last = kit.make(0, 3, 0, "last", "t".repeat(left + more));
+            kit.check("a row of 65535 and " + more, 12, 1, 0);
+            CheckKit.due("bytes of the inode row", kit.inodeBytes(), 65535 + more);
+        }
+    }
+
+    /** What a freeze leaves behind counts for nothing in the next one. */
+    private static void again() {
+        FreezeKit kit = smallTree();
+        kit.make(0, 2, 0, "many blocks", "");
+        for (int i = 0; i < 12; i++) {
+            kit.fill(12, i + 1, 4000);
+        }
+        for (int i = 0; i < 250; i++) {
+            kit.check("again " + i, 12, i % 2 == 0 ? 4 : 7, i);
         }
     }
 

@@ -11,6 +11,9 @@ import java.util.zip.Adler32;
 final class PackKit {
     static final int[] ORDER = {16, 17, 18, 0, 8, 7, 9, 6, 10, 5, 11, 4, 12, 3, 13, 2, 14, 1, 15};
     private static final Map<String, byte[]> MADE = new HashMap<>();
+    /** How often a stored part took just as many bits as the best other one, and a fixed one as a made one. */
+    static int storedTies;
+    static int fixedTies;
 
     private PackKit() {
     }
@@ -311,6 +314,8 @@ final class PackKit {
             Bits made = fork(all);
             putMade(made, tokens);
             int least = Math.min(fixed.bits.length(), made.bits.length());
+            storedTies += stored.bits.length() == least ? 1 : 0;
+            fixedTies += fixed.bits.length() == made.bits.length() && least < stored.bits.length() ? 1 : 0;
             all = stored.bits.length() <= least ? stored : fixed.bits.length() <= least ? fixed : made;
         }
         return wrap(120, 156, all.bytes(), check(row));

@@ -116,11 +116,12 @@ public final class TreeTest {
             CheckKit.due("target of 4096", CheckKit.make(x, 0, 3, i + "\0" + "t".repeat(4096)), i + 1);
         }
         CheckKit.due("one byte more", CheckKit.make(x, 0, 3, "m\0t"), FULL);
+        CheckKit.due("a file, which has none", CheckKit.make(x, 0, 2, "f"), 9);
         CheckKit.due("one more entry for a link", CheckKit.tie(x, 0, 1, "m"), 2);
         CheckKit.due("drop of one of both", CheckKit.drop(x, 0, "m"), 1);
         CheckKit.due("leaves the target", CheckKit.make(x, 0, 3, "m\0t"), FULL);
         CheckKit.due("drop of the last", CheckKit.drop(x, 0, "0"), 1);
-        CheckKit.due("frees it", CheckKit.make(x, 0, 3, "m\0" + "t".repeat(4096)), 9);
+        CheckKit.due("frees it", CheckKit.make(x, 0, 3, "m\0" + "t".repeat(4096)), 10);
     }
 
     private static void deep() {
@@ -187,10 +188,11 @@ public final class TreeTest {
         CheckKit.due("the other goes", CheckKit.drop(x, 0, "bb"), 2);
         CheckKit.due("the node is gone", x.write(2), BAD);
         CheckKit.write(x, 1, CheckKit.bytes("!"));
+        x.fill(1, 63, 3);
         x.freeze(12, 0, 0);
         x.mount();
         x.read(CheckKit.find(x, 1, "a"), 0, 100);
-        CheckKit.due("bytes before the gone ones", CheckKit.out(x), CheckKit.bytes("first and more!"));
+        CheckKit.due("bytes before the gone ones", CheckKit.out(x), CheckKit.bytes("first and more!???"));
         x.read(CheckKit.find(x, 1, "c"), 0, 100);
         CheckKit.due("bytes behind the gone ones", CheckKit.out(x), CheckKit.bytes("third"));
     }
