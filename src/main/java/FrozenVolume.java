@@ -1492,7 +1492,7 @@ public final class FrozenVolume {
         private int indexCount;
         private int listing;
         private final int[] walked = new int[DEEP + 1];
-        private int block;
+        private int block = BLOCK;
         private int options;
         private int inodesAt;
 
@@ -1902,7 +1902,7 @@ public final class FrozenVolume {
         final PieceRow pieces = new PieceRow(ROW);
         final Row row = pieces.row;
         int count;
-        private int block;
+        private int block = BLOCK;
         private final int[] begins = new int[TABLE + 1];
         private final int[] numbers = new int[TABLE];
         private final int[] places = new int[TABLE + 1];
@@ -2320,7 +2320,7 @@ public final class FrozenVolume {
         private final Unpacker unpacker = new Unpacker();
         private final byte[] loaded = new byte[BLOCK];
         private final int[] fragmentSizes = new int[TABLE];
-        private int block;
+        private int block = BLOCK;
         private int inodeCount;
         private int fragmentCount;
         private int idCount;
