@@ -700,14 +700,14 @@ public final class FaultTest {
 
     /** All of the same byte: as many fragments as may be, and one more. */
     private static void manyFragments() {
-        for (int many : new int[] {512, 513, 1024, 1025}) {
+        for (int many : new int[] {512, 513, 1024, 1025, 4096, 4097}) {
             ImageKit kits = new ImageKit();
             int begin = kits.addData(new byte[] {1});
             for (int i = 0; i < many; i++) {
                 kits.fragments.add(new long[] {begin, 1 + AS_IS, 0});
             }
             int at = kits.addFile(2, 0, many - 1, 0, 1);
-            CheckKit.due(many + " fragments", mountOf(kits, at), many <= 1024 ? 0 : 8);
+            CheckKit.due(many + " fragments", mountOf(kits, at), many <= 1024 ? 0 : many <= 4096 ? 8 : 1);
         }
     }
 
