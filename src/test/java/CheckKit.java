@@ -1,19 +1,47 @@
+import java.io.IOException;
 import java.nio.charset.StandardCharsets;
+import java.nio.file.Files;
+import java.nio.file.Path;
 
 /** What every test needs: a count of the answers that are not as due, and bytes on the tape. */
 final class CheckKit {
     static final int FOLDER = 1, FILE = 2, LINK = 3, BLOCKS = 4, CHARACTERS = 5, PIPE = 6, SOCKET = 7;
+    private static final Path DOCUMENT = Path.of("../shared/DOC.md");
+    private static String document;
+    private static String sentence = "";
+    private static int sentences;
     private static int wrong;
     private static int asked;
 
     private CheckKit() {
     }
 
+    /** The promise and the words of the document that the answers from here on are of: the words must stand there. */
+    static void sentence(int promise, String words) {
+        sentence = "promise " + promise + ", '" + words + "': ";
+        sentences++;
+        due("words that stand in the document", document().contains(plain(words)) ? 1 : 0, 1);
+    }
+
+    private static String document() {
+        try {
+            document = document == null ? plain(Files.readString(DOCUMENT)) : document;
+        } catch (IOException e) {
+            due("reading the document, " + e, 0, 1);
+            document = "";
+        }
+        return document;
+    }
+
+    private static String plain(String words) {
+        return words.replaceAll("\\s+", " ");
+    }
+
     static void due(String what, long got, long want) {
         asked++;
         if (got != want) {
             wrong++;
-            System.out.println(what + " answered " + got + ", due is " + want);
+            System.out.println(sentence + what + " answered " + got + ", due is " + want);
         }
     }
 
@@ -22,12 +50,13 @@ final class CheckKit {
         if (!java.util.Arrays.equals(got, want)) {
             wrong++;
             int at = java.util.Arrays.mismatch(got, want);
-            System.out.println(what + ": " + got.length + " bytes, due are " + want.length + "; other from " + at + " on");
+            System.out.println(sentence + what + ": " + got.length + " bytes, due are " + want.length + "; other from " + at + " on");
         }
     }
 
     static void finish(String test) {
-        System.out.println(test + ": " + asked + " answers, " + wrong + " not as due");
+        System.out.println(test + ": " + asked + " answers" + (sentences > 0 ? " to " + sentences + " sentences, " : ", ")
+                + wrong + " not as due");
         if (wrong > 0) {
             System.exit(1);
         }
