@@ -17,8 +17,16 @@ final class ImageKit {
     final List<long[]> fragments = new ArrayList<>();
     final List<Long> exports = new ArrayList<>();
     int[] ids = {0};
-    /** For each row in its order: how a piece is put, or null for a piece as it is. */
     boolean packs;
+    /** Pieces that are put instead of those of the inode row, of the directory row, of the id table. */
+    byte[] inodePieces;
+    byte[] folderPieces;
+    byte[][] idPieces;
+    /**
+     * How many bytes stand between two parts where none may stand: before the directory row, the fragment table, the
+     * export table, the id table, the id table's list, and the image's end.
+     */
+    final int[] gaps = new int[6];
     int made;
     /** Where parts begin in the image that was put together last. */
     int inodesAt;
@@ -109,13 +117,13 @@ final class ImageKit {
         return pieces;
     }
 
-    private int putTable(ByteArrayOutputStream image, byte[] table) {
-        List<byte[]> pieces = pieces(table);
+    private int putTable(ByteArrayOutputStream image, List<byte[]> pieces, int gap) {
         byte[] list = new byte[0];
         for (byte[] piece : pieces) {
             list = join(list, little(8, image.size()));
             image.writeBytes(piece);
         }
+        image.writeBytes(new byte[gap]);
         int at = image.size();
         image.writeBytes(list);
         return at;
@@ -126,21 +134,26 @@ final class ImageKit {
         image.writeBytes(new byte[96]);
         image.writeBytes(data.toByteArray());
         inodesAt = image.size();
-        image.writeBytes(join(pieces(inodes.toByteArray()).toArray(new byte[0][])));
+        image.writeBytes(inodePieces != null ? inodePieces : join(pieces(inodes.toByteArray()).toArray(new byte[0][])));
+        image.writeBytes(new byte[gaps[0]]);
         foldersAt = image.size();
-        image.writeBytes(join(pieces(folders.toByteArray()).toArray(new byte[0][])));
+        image.writeBytes(folderPieces != null ? folderPieces : join(pieces(folders.toByteArray()).toArray(new byte[0][])));
+        image.writeBytes(new byte[gaps[1]]);
         tablesAt = image.size();
         byte[] table = new byte[0];
         for (long[] fragment : fragments) {
             table = join(table, little(8, fragment[0]), little(4, fragment[1]), little(4, fragment[2]));
         }
-        fragmentList = fragments.isEmpty() ? -1 : putTable(image, table);
+        fragmentList = fragments.isEmpty() ? -1 : putTable(image, pieces(table), 0);
+        image.writeBytes(new byte[gaps[2]]);
         table = new byte[0];
         for (long export : exports) {
             table = join(table, little(8, export));
         }
-        exportList = exports.isEmpty() ? -1 : putTable(image, table);
-        idList = putTable(image, row(ids));
+        exportList = exports.isEmpty() ? -1 : putTable(image, pieces(table), 0);
+        image.writeBytes(new byte[gaps[3]]);
+        idList = putTable(image, idPieces != null ? Arrays.asList(idPieces) : pieces(row(ids)), gaps[4]);
+        image.writeBytes(new byte[gaps[5]]);
         byte[] all = image.toByteArray();
         byte[] head = join(little(4, 1936814952), little(4, inodeCount < 0 ? made : inodeCount), little(4, 0),
                 little(4, 1 << log), little(4, fragments.size()), little(2, 1), little(2, log), little(2, flags),
