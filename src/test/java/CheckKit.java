@@ -2,6 +2,10 @@ import java.io.IOException;
 import java.nio.charset.StandardCharsets;
 import java.nio.file.Files;
 import java.nio.file.Path;
+import java.util.HashMap;
+import java.util.Map;
+import java.util.Set;
+import java.util.TreeSet;
 
 /** What every test needs: a count of the answers that are not as due, and bytes on the tape. */
 final class CheckKit {
@@ -10,6 +14,7 @@ final class CheckKit {
     private static String document;
     private static String sentence = "";
     private static int sentences;
+    private static final Map<String, Set<Integer>> MET = new HashMap<>();
     private static int wrong;
     private static int asked;
 
@@ -21,6 +26,22 @@ final class CheckKit {
         sentence = "promise " + promise + ", '" + words + "': ";
         sentences++;
         due("words that stand in the document", document().contains(plain(words)) ? 1 : 0, 1);
+    }
+
+    /** Remembers a number that came up where the document names an edge. */
+    static void met(String what, int number) {
+        MET.computeIfAbsent(what, k -> new TreeSet<>()).add(number);
+    }
+
+    static void forgetMet() {
+        MET.clear();
+    }
+
+    /** Whether each of these came up since they were forgotten: otherwise the test did not come to the edge. */
+    static void dueMet(String what, int... numbers) {
+        for (int number : numbers) {
+            due("the edge, " + what + " " + number + ", came up", MET.getOrDefault(what, Set.of()).contains(number) ? 1 : 0, 1);
+        }
     }
 
     private static String document() {

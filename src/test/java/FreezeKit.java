@@ -65,6 +65,7 @@ final class FreezeKit {
             if (piece.length > 0) {
                 starts.add(closed.size());
                 byte[] packed = packs ? PackKit.pack(piece) : piece;
+                CheckKit.met("bytes that packing a piece adds", packs ? packed.length - piece.length : 9999);
                 boolean shorter = packed.length < piece.length;
                 closed.writeBytes(little(2, shorter ? packed.length : piece.length + 32768));
                 closed.writeBytes(shorter ? packed : piece);
@@ -172,6 +173,8 @@ final class FreezeKit {
         inodes = new Row(packs);
         folders = new Row(packs);
         done(nodes.get(0));
+        CheckKit.met("bytes of the inode row", inodes.total);
+        CheckKit.met("bytes of the directory row", folders.total);
         inodes.close();
         folders.close();
         int inodesAt = image.size();
@@ -201,6 +204,8 @@ final class FreezeKit {
                 little(2, 4), little(2, 0), little(8, order.get(0).reference), little(8, all.length), little(8, idList),
                 little(8, -1), little(8, inodesAt), little(8, foldersAt), little(8, fragmentList), little(8, exportList));
         System.arraycopy(head, 0, all, 0, 96);
+        CheckKit.met("bytes of the image", all.length);
+        CheckKit.met("fragments", fragments.size());
         return all;
     }
 
@@ -249,6 +254,11 @@ final class FreezeKit {
         return inodes.total;
     }
 
+    /** How many bytes the directory row had, unpacked. */
+    int folderBytes() {
+        return folders.total;
+    }
+
     private void putData(int block, boolean packs, boolean fragmented) {
         Map<String, Data> known = new LinkedHashMap<>();
         fragments = new ArrayList<>();
@@ -281,6 +291,7 @@ final class FreezeKit {
             data.zeros += zeros ? one.length : 0;
         }
         if (rest > 0 && fragmented) {
+            CheckKit.met("bytes of a fragment and a rest", hand.size() + rest);
             if (hand.size() + rest > block) {
                 closeFragment(packs);
             }
@@ -293,6 +304,7 @@ final class FreezeKit {
 
     private int putBlock(byte[] bytes, boolean packs) {
         byte[] packed = packs ? PackKit.pack(bytes) : bytes;
+        CheckKit.met("bytes that packing a block adds", packs ? packed.length - bytes.length : 9999);
         boolean shorter = packed.length < bytes.length;
         image.writeBytes(shorter ? packed : bytes);
         return shorter ? packed.length : bytes.length + 16777216;
@@ -317,6 +329,7 @@ final class FreezeKit {
         }
         long begin = folders.reference();
         int from = folders.total;
+        CheckKit.met(folder.entries.isEmpty() ? "an empty directory at place" : "a listing at place", folders.hand.size());
         List<byte[]> indexes = putListing(folder);
         int size = folders.total - from + 3;
         int links = 2;
@@ -360,6 +373,7 @@ final class FreezeKit {
 
     private void putInode(Node node, int type, byte[]... body) {
         node.reference = inodes.reference();
+        CheckKit.met("an inode at place", inodes.hand.size());
         inodes.put(join(little(2, type), little(2, node.mode), little(2, ids.indexOf(node.owner)),
                 little(2, ids.indexOf(node.group)), little(4, node.time), little(4, node.number)));
         inodes.put(join(body));
@@ -372,12 +386,17 @@ final class FreezeKit {
         int at = folders.total;
         for (Map.Entry<String, Node> entry : folder.entries.entrySet()) {
             List<Map.Entry<String, Node>> last = heads.isEmpty() ? null : heads.get(heads.size() - 1);
+            if (last != null) {
+                CheckKit.met("an entry behind another at place", at % 8192);
+                CheckKit.met("entries of the header before an entry", last.size());
+            }
             if (last == null || last.size() == 256
                     || last.get(0).getValue().reference >> 16 != entry.getValue().reference >> 16
                     || at / 8192 != places.get(places.size() - 1) / 8192) {
                 last = new ArrayList<>();
                 heads.add(last);
                 places.add(at);
+                CheckKit.met("a header at place", at % 8192);
                 at += 12;
             }
             last.add(entry);
