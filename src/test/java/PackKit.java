@@ -11,9 +11,8 @@ import java.util.zip.Adler32;
 final class PackKit {
     static final int[] ORDER = {16, 17, 18, 0, 8, 7, 9, 6, 10, 5, 11, 4, 12, 3, 13, 2, 14, 1, 15};
     private static final Map<String, byte[]> MADE = new HashMap<>();
-    /** How often a stored part took just as many bits as the best other one, and a fixed one as a made one. */
-    static int storedTies;
-    static int fixedTies;
+    /** Whether it is remembered which edges came up, which takes some time. */
+    static boolean remembers;
 
     private PackKit() {
     }
@@ -75,13 +74,25 @@ final class PackKit {
     }
 
     static int[] lengths(int[] counts, int limit) {
+        int[] lengths = lengths(counts, limit, true, true);
+        if (remembers) {
+            CheckKit.met("symbols with counts, limit " + limit + ":", (int) Arrays.stream(counts).filter(c -> c > 0).count());
+            CheckKit.met("the longest code, limit " + limit + ":", Arrays.stream(lengths).max().getAsInt());
+            CheckKit.met("the longest code without limit, limit " + limit + ":", Arrays.stream(lengths(counts, 30, true, true)).max().getAsInt());
+            CheckKit.met("other lengths with pairs before symbols:", Arrays.equals(lengths, lengths(counts, limit, false, true)) ? 0 : 1);
+            CheckKit.met("other lengths with greater numbers first:", Arrays.equals(lengths, lengths(counts, limit, true, false)) ? 0 : 1);
+        }
+        return lengths;
+    }
+
+    private static int[] lengths(int[] counts, int limit, boolean symbolsFirst, boolean lesserFirst) {
         List<Item> symbols = new ArrayList<>();
         for (int s = 0; s < counts.length; s++) {
             if (counts[s] > 0) {
                 symbols.add(new Item(counts[s], s, null, null));
             }
         }
-        symbols.sort(Comparator.comparingInt((Item i) -> i.count).thenComparingInt(i -> i.symbol));
+        symbols.sort(Comparator.comparingInt((Item i) -> i.count).thenComparingInt(i -> lesserFirst ? i.symbol : -i.symbol));
         int[] lengths = new int[counts.length];
         if (symbols.size() == 1) {
             lengths[symbols.get(0).symbol] = 1;
@@ -91,10 +102,11 @@ final class PackKit {
         }
         List<Item> list = symbols;
         for (int k = 1; k < limit; k++) {
-            List<Item> next = new ArrayList<>(symbols);
+            List<Item> next = new ArrayList<>();
             for (int i = 0; i + 1 < list.size(); i += 2) {
                 next.add(new Item(list.get(i).count + list.get(i + 1).count, -1, list.get(i), list.get(i + 1)));
             }
+            next.addAll(symbolsFirst ? 0 : next.size(), symbols);
             next.sort(Comparator.comparingInt(i -> i.count));
             list = next;
         }
@@ -157,30 +169,69 @@ final class PackKit {
         }
     }
 
+    private static int three(byte[] row, int at) {
+        return (row[at] & 255) << 16 | (row[at + 1] & 255) << 8 | row[at + 2] & 255;
+    }
+
     /** Of one part: {0, byte} or {length, distance}. */
     static List<int[]> matches(byte[] row, int begin, int end) {
         List<int[]> tokens = new ArrayList<>();
+        Map<Integer, List<Integer>> places = new HashMap<>();
+        int known = 0;
         for (int p = begin; p < end; ) {
+            List<Integer> before = List.of();
+            if (p + 3 <= end) {
+                for (; known < p; known++) {
+                    places.computeIfAbsent(three(row, known), k -> new ArrayList<>()).add(known);
+                }
+                before = places.getOrDefault(three(row, p), before);
+            }
             int best = 0;
             int distance = 0;
             int candidates = 0;
-            for (int q = p - 1; p + 3 <= end && q >= 0 && p - q <= 32768 && candidates < 16; q--) {
+            for (int i = before.size() - 1; i >= 0 && p - before.get(i) <= 32768 && candidates < 16; i--) {
+                int q = before.get(i);
                 int length = 0;
                 while (length < 258 && p + length < end && row[q + length] == row[p + length]) {
                     length++;
                 }
-                if (length >= 3) {
-                    candidates++;
-                    if (length > best) {
-                        best = length;
-                        distance = p - q;
-                    }
+                candidates++;
+                if (length > best) {
+                    best = length;
+                    distance = p - q;
                 }
+            }
+            if (remembers) {
+                rememberMatch(row, p, end, best, distance, candidates);
             }
             tokens.add(best == 0 ? new int[] {0, row[p] & 255} : new int[] {best, distance});
             p += Math.max(1, best);
         }
         return tokens;
+    }
+
+    private static void rememberMatch(byte[] row, int p, int end, int best, int distance, int candidates) {
+        CheckKit.met(best == 0 ? "bytes left without a match:" : "bytes left at a match:", end - p);
+        CheckKit.met("candidates:", candidates);
+        CheckKit.met("length", best);
+        CheckKit.met("distance", distance);
+        boolean more = best > 0 && p + best < row.length && row[p - distance + best] == row[p + best];
+        CheckKit.met("a match that goes on behind its part:", more && p + best == end ? 1 : 0);
+        CheckKit.met("a match that goes on behind 258:", more && best == 258 ? 1 : 0);
+        // Near places, and those that are just too far: to look at all would take too long.
+        for (int away = 1; away <= 32770; away = away == 1000 ? 32769 : away + 1) {
+            int q = p - away;
+            int length = 0;
+            while (q >= 0 && length < 258 && p + length < end && row[q + length] == row[p + length]) {
+                length++;
+            }
+            if (length > 2 && length > best) {
+                CheckKit.met("a longer match that is no candidate, so far away:", away);
+            }
+            if (best > 0 && length == best && away > distance) {
+                CheckKit.met("a match that is as long, but farther:", 1);
+            }
+        }
     }
 
     static void putSymbols(Bits to, List<int[]> tokens, int[] symbols, int[] distances) {
@@ -208,6 +259,9 @@ final class PackKit {
                 n++;
             }
             int left = n;
+            if (remembers) {
+                CheckKit.met(row[i] == 0 ? "a stretch of 0:" : "a stretch of others:", n);
+            }
             if (row[i] == 0) {
                 for (; left >= 11; left -= Math.min(138, left)) {
                     told.add(new int[] {18, 7, Math.min(138, left) - 11});
@@ -268,6 +322,11 @@ final class PackKit {
             ordered[i] = tellers[ORDER[i]];
         }
         int c = last(ordered, 3) - 3;
+        if (remembers) {
+            CheckKit.met("h", h);
+            CheckKit.met("d", d);
+            CheckKit.met("c", c);
+        }
         to.number(2, 2);
         to.number(h, 5);
         to.number(d, 5);
@@ -314,8 +373,12 @@ final class PackKit {
             Bits made = fork(all);
             putMade(made, tokens);
             int least = Math.min(fixed.bits.length(), made.bits.length());
-            storedTies += stored.bits.length() == least ? 1 : 0;
-            fixedTies += fixed.bits.length() == made.bits.length() && least < stored.bits.length() ? 1 : 0;
+            CheckKit.met("bits that another sort takes more than stored:", least - stored.bits.length());
+            if (least < stored.bits.length()) {
+                CheckKit.met("bits that made takes more than fixed:", made.bits.length() - fixed.bits.length());
+            }
+            CheckKit.met("bytes of a part:", end - p);
+            CheckKit.met("bits of a byte before a stored part:", stored.bits.length() <= least ? all.bits.length() % 8 : 9);
             all = stored.bits.length() <= least ? stored : fixed.bits.length() <= least ? fixed : made;
         }
         return wrap(120, 156, all.bytes(), check(row));
