@@ -6,7 +6,7 @@ import java.util.Random;
 import java.util.zip.Deflater;
 
 /** Promise 18 again, sentence by sentence: which packed rows are ones, shown by a file whose one block is the row. */
-public final class UnpackTest {
+public final class UnpackEdgeTest {
     private static final FrozenVolume VOLUME = new FrozenVolume();
 
     public static void main(String[] args) {
@@ -39,7 +39,7 @@ public final class UnpackTest {
         bitsToTheByteEnd();
         anotherCheck();
         checkModulo();
-        CheckKit.finish("UnpackTest");
+        CheckKit.finish("UnpackEdgeTest");
     }
 
     /** What mount answers to a file of so many bytes, in one block that is told to be packed. */
