@@ -20,6 +20,7 @@ public final class DataEdgeTest {
         restsUnpackToJustThat();
         restsInAFragment();
         everyFile();
+        noSumRunsOver();
         theFirstOfTheFaults();
         zeroOrTheFault();
         CheckKit.finish("DataEdgeTest");
@@ -281,6 +282,30 @@ public final class DataEdgeTest {
             one.root = ImageKit.reference(one.addFolder(4, 0, told.length, 2, 5));
             MountKit.mounts("a short block of file " + wrong, one, wrong == 0 ? 0 : 8);
         }
+    }
+
+    /** Numbers that a sum, or a sign, would bring back among those that hold. */
+    private static void noSumRunsOver() {
+        CheckKit.sentence(18, "(all numbers being without sign, no sum running over)");
+        ImageKit kit = SAMPLE.kit;
+        SAMPLE.patched("USED", 1, 40, MountKit.eight(SAMPLE.good.length + Long.MIN_VALUE));
+        SAMPLE.patched("an id list that ends at USED if it runs over", 2, 48, MountKit.eight(-8));
+        SAMPLE.patched("an export list likewise", 2, 88, MountKit.eight(Long.MIN_VALUE + kit.exportList));
+        SAMPLE.patched("a fragment piece", 2, kit.fragmentList, MountKit.eight(kit.tablesAt + (1L << 32)));
+        SAMPLE.patched("a fragment whose end runs over", 4, kit.tablesAt + 2, MountKit.eight(-50));
+        SAMPLE.patched("a fragment below 0 by sign", 4, kit.tablesAt + 2, MountKit.eight(Long.MIN_VALUE + 96));
+        SAMPLE.inode("a rest whose offset runs over", 5, SAMPLE.f, 48, four(-50));
+        SAMPLE.inode("a size below 0 by sign", 5, SAMPLE.f, 24, MountKit.eight(Long.MIN_VALUE + 50));
+        SAMPLE.inode("a target whose end runs over", 5, SAMPLE.l, 20, four(-20));
+        SAMPLE.inode("an index's name whose end runs over", 5, SAMPLE.r, 48, four(-13));
+        SAMPLE.inode("a listing whose end runs over", 6, SAMPLE.r, 20, four(-10));
+        SAMPLE.folder("a header's number that runs over with what is more", 6, SAMPLE.listing + 8, ImageKit.join(four(-1), MountKit.two(SAMPLE.d), MountKit.two(3)));
+        SAMPLE.inode("an index's place below 0 by sign", 6, SAMPLE.r, 40, four(Integer.MIN_VALUE + SAMPLE.second - SAMPLE.listing));
+        SAMPLE.inode("a parent's number below 0 by sign", 7, SAMPLE.d, 28, four(Integer.MIN_VALUE + 1));
+        SAMPLE.inode("links below 0 by sign", 7, SAMPLE.s, 16, four(Integer.MIN_VALUE + 1));
+        SAMPLE.inode("a begin whose end runs over", 8, SAMPLE.x, 16, four(-4096));
+        MountKit.mounts("a begin below 0 by sign", withBegin(9, Long.MIN_VALUE + 96), 8);
+        MountKit.mounts("a begin whose end runs over", withBegin(9, -4096 + 96), 8);
     }
 
     private static void theFirstOfTheFaults() {

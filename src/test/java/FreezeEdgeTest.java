@@ -11,6 +11,7 @@ public final class FreezeEdgeTest {
         options();
         times();
         flags();
+        tablesIfThereAre();
         imageOfMost();
         inodeRowOfMost();
         directoryRowOfMost();
@@ -37,6 +38,7 @@ public final class FreezeEdgeTest {
         emptyDirectories();
         headersOf256();
         headersOfAnotherPiece();
+        numbersFarApart();
         headersAtAPiecesEnd();
         entriesAtAPiecesEnd();
         indexes();
@@ -91,6 +93,27 @@ public final class FreezeEdgeTest {
             CheckKit.due("FLAGS of options " + options, x.imageWord(3) & 65535, flags);
             CheckKit.due("an export list", x.imageWord(11) == -1 ? 0 : 1, options >> 3);
             CheckKit.due("a fragment list", x.imageWord(10), -1);
+        }
+    }
+
+    private static void tablesIfThereAre() {
+        CheckKit.sentence(12, "the FRAGMENT TABLE (if there are fragments), the EXPORT TABLE (if told), the ID TABLE.");
+        for (int bytes = 0; bytes <= 1; bytes++) {
+            for (int options : new int[] {1, 9}) {
+                FreezeKit kit = oneFile(new byte[bytes]);
+                kit.check("bytes " + bytes + ", options " + options, 12, options, 0);
+                // Pieces are as they are, each with its head and a list of one: 16 for a fragment, 8 for each inode, 4 for an id.
+                long end = kit.volume.imageWord(9) + 2 + kit.folderBytes();
+                long fragments = bytes == 0 ? -1 : end + 2 + 16;
+                end = bytes == 0 ? end : fragments + 8;
+                long exports = options == 1 ? -1 : end + 2 + 2 * 8;
+                end = options == 1 ? end : exports + 8;
+                CheckKit.due("the fragments' list", kit.volume.imageWord(10), fragments);
+                CheckKit.due("the export table's list", kit.volume.imageWord(11), exports);
+                CheckKit.due("the id table's list", kit.volume.imageWord(6), end + 2 + 4);
+                CheckKit.due("USED", kit.volume.imageWord(5), end + 2 + 4 + 8);
+                CheckKit.due("the image", kit.volume.image(), end + 2 + 4 + 8);
+            }
         }
     }
 
@@ -670,7 +693,6 @@ public final class FreezeEdgeTest {
         CheckKit.dueMet("entries of the header before an entry", 255, 256);
     }
 
-    /** That a number be further from its header's than 32767 can't come up: there are 2000 nodes at most. */
     private static void headersOfAnotherPiece() {
         CheckKit.sentence(12, "or the inode begins in a piece of another start");
         CheckKit.forgetMet();
@@ -685,13 +707,19 @@ public final class FreezeEdgeTest {
             CheckKit.due("bytes of the row", kit.folderBytes(), 12 + 4 * 9 + (place < 8192 ? 0 : 24));
         }
         CheckKit.dueMet("an inode at place", 8191, 0, 1);
+    }
+
+    private static void numbersFarApart() {
+        CheckKit.sentence(12, "or its number less the header's is not -32768 .. 32767");
         FreezeKit far = new FreezeKit();
         far.make(0, 1, 0, "d", "");
         for (int i = 0; i < 1900; i++) {
             far.make(1, 7, 0, "s" + i, "");
         }
+        // There are 2000 nodes at most: so far apart no two of them can be.
         far.tie(0, 1901, "z");
-        far.check("numbers that are far apart, rising and falling", 12, 0, 0);
+        far.tie(1, 1901, "!");
+        far.check("numbers that are as far apart as they can be, rising and falling", 12, 0, 0);
     }
 
     private static void headersAtAPiecesEnd() {

@@ -17,6 +17,7 @@ public final class InodeEdgeTest {
         modes();
         ownersAndGroups();
         numbers();
+        numbersUpToInodes();
         ones();
         directorySizes();
         indexNames();
@@ -205,6 +206,20 @@ public final class InodeEdgeTest {
         for (int number : new int[] {0, 1, 2}) {
             byte[] other = ImageKit.patched(image, one.inodesAt + 2 + 12, four(number));
             CheckKit.due("number " + number + " of one", CheckKit.mount(other), number == 1 ? 0 : 5);
+        }
+    }
+
+    private static void numbersUpToInodes() {
+        CheckKit.sentence(18, "u4 its NUMBER, 1 to INODES");
+        // Two inodes, of which the socket has a number, and the root the other one.
+        for (int number : new int[] {0, 1, 2, 3}) {
+            for (int root = 1; root <= 2; root++) {
+                ImageKit one = new ImageKit();
+                int at = one.addInode(7, number, four(1));
+                int told = one.addListing(ImageKit.head(1, at, number), ImageKit.entry(at, 0, 7, "n"));
+                one.root = ImageKit.reference(one.addFolder(root, told, 21, 2, 3));
+                MountKit.mounts("number " + number + " beside " + root, one, number + root == 3 && number > 0 ? 0 : 5);
+            }
         }
     }
 

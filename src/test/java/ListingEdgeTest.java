@@ -12,8 +12,11 @@ public final class ListingEdgeTest {
         offsets();
         offsetsAtAPiecesEnd();
         withinTheRow();
+        threeBytesLess();
         endsBehindAnEntry();
         headersTell();
+        headersTellLessOne();
+        namesTellLessOne();
         headersStart();
         headersStartOfTheSecondPiece();
         nameLengths();
@@ -136,6 +139,21 @@ public final class ListingEdgeTest {
         MountKit.mounts("the same, and the listing ends before", withListing(1, cut, 0, 0, 21), 6);
     }
 
+    private static void threeBytesLess() {
+        CheckKit.sentence(18, "it has 3 bytes less than its size");
+        for (int size = 21; size <= 27; size++) {
+            for (int type : new int[] {1, 8}) {
+                ImageKit one = new ImageKit();
+                one.addFile(2, 0, -1, 0, 0);
+                one.addListing(one("f"), new byte[10]);
+                byte[] body = type == 1 ? ImageKit.join(four(0), four(2), two(size), two(0), four(3))
+                        : ImageKit.join(four(2), four(size), four(0), four(3), two(0), two(0), four(-1));
+                one.root = ImageKit.reference(one.addInode(type, 1, body));
+                MountKit.mounts("a size of " + size + " for 21 bytes", one, size == 24 ? 0 : 6);
+            }
+        }
+    }
+
     private static void endsBehindAnEntry() {
         CheckKit.sentence(18, "and ends behind an entry, the last one that its header tells");
         byte[] row = ImageKit.join(head(2), entry("a"), entry("b"), one("c"));
@@ -179,6 +197,30 @@ public final class ListingEdgeTest {
             both = ImageKit.join(both, i == 0 ? head(256) : i == 256 ? head(1) : new byte[0], entry(names(257)[i]));
         }
         MountKit.mounts("257 entries in two headers", withListing(257, both, 0, 0, both.length), 0);
+    }
+
+    private static void headersTellLessOne() {
+        CheckKit.sentence(18, "u4 the entries that follow, less 1 (0 .. 255)");
+        for (int less1 : new int[] {0, 1, 2}) {
+            for (int many = 1; many <= 3; many++) {
+                byte[] row = four(less1);
+                row = ImageKit.join(row, four(0), four(2));
+                for (String name : names(many)) {
+                    row = ImageKit.join(row, entry(name));
+                }
+                MountKit.mounts(many + " entries told by " + less1, withListing(many, row, 0, 0, row.length), many == less1 + 1 ? 0 : 6);
+            }
+        }
+    }
+
+    private static void namesTellLessOne() {
+        CheckKit.sentence(18, "u2 the name's bytes less 1, the name.");
+        for (int less1 : new int[] {0, 1, 2, 254, 255, 256}) {
+            for (int n : new int[] {less1, less1 + 1, less1 + 2}) {
+                byte[] row = ImageKit.join(head(1), two(0), two(0), two(2), two(less1), CheckKit.bytes("n".repeat(n)));
+                MountKit.mounts("a name of " + n + " told by " + less1, withListing(1, row, 0, 0, row.length), n == less1 + 1 && n <= 256 ? 0 : 6);
+            }
+        }
     }
 
     private static void headersStart() {

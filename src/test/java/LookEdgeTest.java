@@ -20,6 +20,7 @@ public final class LookEdgeTest {
         aboutWithoutSign();
         aboutSizes();
         aboutLinks();
+        aboutDevices();
         aboutParents();
         aboutEntries();
         aboutBlockNumbers();
@@ -30,6 +31,8 @@ public final class LookEdgeTest {
         readPlaces();
         readSizes();
         readAcrossBlocks();
+        readZeros();
+        readOfAFragment();
         readRefused();
         targetLengths();
         targetRefused();
@@ -246,6 +249,19 @@ public final class LookEdgeTest {
         }
     }
 
+    private static void aboutDevices() {
+        CheckKit.sentence(20, "7 a device's number (without sign)");
+        for (int number : new int[] {0, 1, GREATEST, LEAST, -1}) {
+            for (int kind = 4; kind <= 5; kind++) {
+                FrozenVolume x = new FrozenVolume();
+                CheckKit.make(x, 0, kind, number, "d");
+                x.freeze(12, 0, 0);
+                x.mount();
+                CheckKit.due("number of a device of kind " + kind, x.about(2, 7), number & 4294967295L);
+            }
+        }
+    }
+
     private static void aboutParents() {
         CheckKit.sentence(20, "8 a directory's parent's number (the root's: its own)");
         FrozenVolume x = mounted();
@@ -417,6 +433,54 @@ public final class LookEdgeTest {
                     }
                 }
             }
+        }
+    }
+
+    private static void readZeros() {
+        CheckKit.sentence(22, "A BLOCK NUMBER: 0, a block of zeros, nowhere");
+        // Blocks of zeros alone; the last one has one byte less than a block, a block, and one byte.
+        for (int size : new int[] {4095, 8191, 8192, 8193, 65535}) {
+            ImageKit kit = MountKit.withFile(new ImageKit(), -1, -1, 0, size, new int[(size + 4095) / 4096]);
+            FrozenVolume x = new FrozenVolume();
+            CheckKit.setImage(x, kit.image());
+            CheckKit.due("mount", x.mount(), 0);
+            x.target(2);
+            for (int from : new int[] {0, size - 2, size - 1, size, size + 1}) {
+                int many = Math.max(0, Math.min(16384, size - from));
+                CheckKit.due("read from " + from, x.read(2, from, 16384), many);
+                CheckKit.due("zeros", CheckKit.out(x), new byte[many]);
+            }
+            CheckKit.due("place", x.place(2), 0);
+        }
+    }
+
+    private static void readOfAFragment() {
+        CheckKit.sentence(22, "The rest of a file with a fragment is in that fragment's block, from the offset on.");
+        FrozenVolume x = new FrozenVolume();
+        byte[] bytes = new byte[4096];
+        for (int i = 0; i < bytes.length; i++) {
+            bytes[i] = (byte) (i / 16 + 1);
+        }
+        // Three files that fill a fragment to its last byte, and a fourth one that begins the next.
+        int[] begins = {0, 1, 4095, 4096};
+        for (int i = 0; i < 3; i++) {
+            CheckKit.make(x, 0, 2, "f" + i);
+            CheckKit.write(x, i + 1, Arrays.copyOfRange(bytes, begins[i], begins[i + 1]));
+        }
+        CheckKit.make(x, 0, 2, "f3");
+        CheckKit.write(x, 4, CheckKit.bytes("next"));
+        for (int options = 0; options <= 2; options += 2) {
+            x.freeze(12, options, 0);
+            CheckKit.due("mount", x.mount(), 0);
+            for (int i = 0; i < 3; i++) {
+                CheckKit.due("read", x.read(i + 2, 0, 16384), begins[i + 1] - begins[i]);
+                CheckKit.due("its bytes", CheckKit.out(x), Arrays.copyOfRange(bytes, begins[i], begins[i + 1]));
+                CheckKit.due("place", x.place(i + 2), 96);
+            }
+            CheckKit.due("read the last byte but one", x.read(3, 4092, 2), 2);
+            CheckKit.due("its bytes", CheckKit.out(x), Arrays.copyOfRange(bytes, 4093, 4095));
+            CheckKit.due("read of the next", x.read(5, 1, 9), 3);
+            CheckKit.due("its bytes", CheckKit.out(x), CheckKit.bytes("ext"));
         }
     }
 

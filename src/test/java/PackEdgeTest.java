@@ -18,7 +18,9 @@ public final class PackEdgeTest {
         nearestOfSeveral();
         eachLength();
         eachDistance();
+        matchesAndBytes();
         countsOfOne();
+        twoSymbols();
         limitOf7();
         limitOf15();
         symbolsBeforePairs();
@@ -194,6 +196,35 @@ public final class PackEdgeTest {
                 CheckKit.dueMet("distance", distance);
             }
         }
+    }
+
+    private static void matchesAndBytes() {
+        begin("if there is no best match at p, its byte is a symbol; otherwise the best match's length (258 as 285, not as 284 with 31 more) and distance, and p goes on behind it.");
+        // Places within a match are places for later ones, too.
+        byte[] row = CheckKit.bytes("abcdefgh-abcdefgh-bcdefghi-cdefghij-defg-abcabcabcabc-cabcab");
+        row("matches that begin within others", row);
+        for (int n = 1; n <= 8; n++) {
+            row("one byte, " + n + " times", same(200, n));
+            row("two bytes, by turns", Arrays.copyOf(CheckKit.bytes("xyxyxyxyxyxyxyxy"), n + 2));
+        }
+        CheckKit.dueMet("length", 0, 3, 4, 5, 6, 7);
+        CheckKit.dueMet("distance", 1, 2);
+    }
+
+    private static void twoSymbols() {
+        begin("Of the last list the first 2 m - 2 items are taken, m being how many symbols have counts");
+        // One byte and 256; one byte, a length and 256; and so on.
+        row("one byte", new byte[] {5});
+        row("one byte, four times", same(5, 4));
+        for (int kinds = 1; kinds <= 40; kinds++) {
+            byte[] row = new byte[2000];
+            Random random = new Random(kinds);
+            for (int i = 0; i < row.length; i++) {
+                row[i] = (byte) (100 + random.nextInt(kinds));
+            }
+            row(kinds + " kinds of bytes", row);
+        }
+        CheckKit.dueMet("symbols with counts, limit 15:", 0, 1, 2, 3);
     }
 
     private static void countsOfOne() {

@@ -9,6 +9,7 @@ public final class TapeEdgeTest {
         calls512();
         highestFirst();
         tapeOfMost();
+        tapeBetween();
         fullChangesNothing();
         endFrom0To20();
         endKeepsWhatCameBefore();
@@ -82,6 +83,15 @@ public final class TapeEdgeTest {
         CheckKit.due("feed behind 16384", feed(tapeOf(16384)), FULL);
         FrozenVolume x = tapeOf(16384);
         CheckKit.due("all of them are read", x.keep(0), 16384);
+    }
+
+    private static void tapeBetween() {
+        CheckKit.sentence(2, "THE TAPE takes bytes by feed() and end(), 16384 at most");
+        for (int size : new int[] {0, 1, 19, 20, 21, 16383, 16384}) {
+            FrozenVolume x = tapeOf(size);
+            CheckKit.due("a tape of " + size + " is read", x.keep(0), size);
+            CheckKit.due("and used up", x.keep(0), 0);
+        }
     }
 
     private static void fullChangesNothing() {

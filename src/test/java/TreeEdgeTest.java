@@ -36,6 +36,8 @@ public final class TreeEdgeTest {
         goneTarget();
         goneNumber();
         writeFiles();
+        writeBehind();
+        fillBehind();
         bytesAtMost();
         fillBytes();
         fillCounts();
@@ -491,6 +493,36 @@ public final class TreeEdgeTest {
             CheckKit.due("write to " + node, CheckKit.write(x, node, new byte[3]), node == 2 ? 3 : BAD);
             CheckKit.due("write more to " + node, CheckKit.write(x, node, new byte[1]), node == 2 ? 4 : BAD);
         }
+    }
+
+    private static void writeBehind() {
+        CheckKit.sentence(9, "The tape's bytes come behind a file's: how many it has.");
+        FrozenVolume x = withAll();
+        CheckKit.make(x, 0, 2, "f");
+        String[] texts = {"", "a", "", "twenty bytes, just so", "and more than twenty bytes of it", ""};
+        StringBuilder all = new StringBuilder();
+        for (String text : texts) {
+            all.append(text);
+            CheckKit.due("write " + text.length(), CheckKit.write(x, 2, CheckKit.bytes(text)), all.length());
+            CheckKit.due("write to another one", CheckKit.write(x, 8, CheckKit.bytes("-")) > 0 ? 1 : 0, 1);
+        }
+        mounted(x);
+        CheckKit.due("read", x.read(3, 0, 16384), all.length());
+        CheckKit.due("the bytes", CheckKit.out(x), CheckKit.bytes(all.toString()));
+        x.read(9, 0, 16384);
+        CheckKit.due("those of the other", CheckKit.out(x), CheckKit.bytes("------"));
+    }
+
+    private static void fillBehind() {
+        CheckKit.sentence(10, "So many bytes b come behind a file's: how many it has.");
+        FrozenVolume x = withAll();
+        CheckKit.due("fill one", x.fill(2, 97, 1), 1);
+        CheckKit.due("fill two", x.fill(2, 98, 2), 3);
+        CheckKit.due("write one", CheckKit.write(x, 2, CheckKit.bytes("c")), 4);
+        CheckKit.due("fill one", x.fill(2, 100, 1), 5);
+        mounted(x);
+        x.read(3, 0, 9);
+        CheckKit.due("the bytes", CheckKit.out(x), CheckKit.bytes("abbcd"));
     }
 
     private static void bytesAtMost() {

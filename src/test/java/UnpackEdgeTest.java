@@ -30,6 +30,8 @@ public final class UnpackEdgeTest {
         sixteenFirst();
         tellersBitsBehind();
         moreLengthsThanThereAreToBe();
+        codesInOrder();
+        bytesJustBeingMade();
         codesOfSymbols();
         oneCodeAlone();
         noDistancesAtAll();
@@ -687,6 +689,32 @@ public final class UnpackEdgeTest {
             lengths[pairs[i]] = pairs[i + 1];
         }
         return lengths;
+    }
+
+    private static void codesInOrder() {
+        CheckKit.sentence(18, "CODES: of those of one length those of lesser symbols come first, and as numbers they go up by one; the first one of a length is twice what would follow the last one of the length before (0 for the first length). A symbol with the length 0 has no code.");
+        // Length 1 for 200, 3 for 70, 80 and 255, 4 for 10 and 256.
+        int[] lengths = with(257, 70, 3, 80, 3, 10, 4, 256, 4, 200, 1, 255, 3);
+        byte[] row = {(byte) 200, 70, 80, (byte) 255, 10, (byte) 200};
+        good("codes of several lengths", made(lengths, with(1), "0" + "100" + "101" + "110" + "1110" + "0" + "1111", row), row);
+        bad("two of them the other way round", made(lengths, with(1), "0" + "101" + "100" + "110" + "1110" + "0" + "1111", row), 6);
+        byte[] all = {0, (byte) 255};
+        good("0 and 255 are bytes, 256 ends", made(with(257, 0, 2, 255, 2, 256, 1), with(1), "10" + "11" + "0", all), all);
+    }
+
+    private static void bytesJustBeingMade() {
+        CheckKit.sentence(18, "So many bytes follow that are those so far before, each (also those that are just being made).");
+        for (int d = 0; d < 4; d++) {
+            for (int s : new int[] {257, 258, 259, 264}) {
+                int length = s - 254;
+                byte[] all = new byte[4 + length];
+                int[][] symbols = {{65}, {66}, {67}, {68}, {s, 0, 0, d, 0, 0}, {256}};
+                for (int i = 0; i < all.length; i++) {
+                    all[i] = (byte) (i < 4 ? 65 + i : all[i - d - 1]);
+                }
+                good("length " + length + " from " + (d + 1) + " before", wrap(fixed(symbols), all), all);
+            }
+        }
     }
 
     private static void codesOfSymbols() {
