@@ -21,6 +21,7 @@ public final class FreezeEdgeTest {
         sharedData();
         restsInFragments();
         restsWithoutFragments();
+        blocksAtMost();
         blocksOfZeros();
         blocksPackedIfShorter();
         fragmentsPackedIfShorter();
@@ -249,8 +250,8 @@ public final class FreezeEdgeTest {
 
     private static void ids() {
         CheckKit.sentence(12, "IDS: owner and group of each node by inode numbers, each as it first comes.");
-        int[][] owners = {{0, 0, 0, 0}, {5, 5, 5, 5}, {5, 6, 6, 5}, {5, 5, 6, 5}, {-1, 0, 0, LEAST}, {1, 2, 3, 4}};
-        int[][] due = {{0}, {5}, {5, 6}, {5, 6}, {-1, 0, LEAST}, {1, 2, 3, 4}};
+        int[][] owners = {{0, 0, 0, 0}, {5, 5, 5, 5}, {5, 6, 6, 5}, {5, 5, 6, 5}, {-1, 0, 0, LEAST}, {1, 2, 3, 4}, {1, 2, 3, 0}};
+        int[][] due = {{0}, {5}, {5, 6}, {5, 6}, {-1, 0, LEAST}, {1, 2, 3, 4}, {1, 2, 3, 0}};
         for (int k = 0; k < owners.length; k++) {
             FrozenVolume x = new FrozenVolume();
             CheckKit.make(x, 0, 2, "f");
@@ -264,6 +265,13 @@ public final class FreezeEdgeTest {
                 CheckKit.due("id " + i, four(image, list - 4 * due[k].length + 4 * i), due[k][i]);
             }
         }
+        FreezeKit late = new FreezeKit();
+        for (int i = 0; i < 40; i++) {
+            late.make(0, 7, 0, "s" + (100 + i), "");
+            late.own(i + 1, 0, 39 - i, 100 + i, 0);
+        }
+        late.own(0, 0, 50, 51, 0);
+        late.check("the id 0 as one of the last", 12, 0, 0);
         FreezeKit kit = new FreezeKit();
         for (int i = 0; i < 1030; i++) {
             kit.make(0, 7, 0, "s" + i, "");
@@ -350,6 +358,28 @@ public final class FreezeEdgeTest {
                 CheckKit.due("blocks", kit.volume.about(2, 10), (size + 4095) / 4096);
             }
         }
+    }
+
+    /** As many files as there can be, each with bytes of its own: no other tree has so many block numbers. */
+    private static void blocksAtMost() {
+        CheckKit.sentence(12, "With option 4 it is a block, too.");
+        FreezeKit kit = new FreezeKit();
+        for (int i = 1; i < 2000; i++) {
+            kit.make(0, 2, 0, "f" + i, "");
+            kit.write(i, new byte[] {1, (byte) i, (byte) (i >> 8)});
+        }
+        kit.fill(1999, 7, 16384);
+        kit.fill(1999, 8, 16384);
+        kit.fill(1999, 9, 16384);
+        kit.fill(1999, 9, 65536 - 3 * 16384 - 3 * 1999);
+        kit.freeze(12, 4, 0);
+        CheckKit.due("a row that would be too long, of so many inodes", kit.volume.freeze(12, 4, 0), FULL);
+        for (int i = 1; i < 300; i++) {
+            CheckKit.drop(kit.volume, 0, "f" + i);
+            kit.nodes.get(0).entries.remove("f" + i);
+        }
+        kit.check("1700 files of a block each", 12, 4, 0);
+        kit.check("the same as they are", 12, 7, 0);
     }
 
     private static void blocksOfZeros() {

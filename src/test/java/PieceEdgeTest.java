@@ -114,6 +114,10 @@ public final class PieceEdgeTest {
             ImageKit fragments = withFragments(512 + more);
             MountKit.mounts("fragments: 512 and " + more, fragments, 0);
         }
+        for (int many : new int[] {2048, 2049, 3072, 3073, 3100}) {
+            // With many more inodes than these the image would be too long, as its rows are not packed.
+            MountKit.mounts("exports: " + many, withExports(many), 0);
+        }
         byte[] one = withIds(2048).image();
         CheckKit.due("2049 ids with a list of one", CheckKit.mount(ImageKit.patched(one, 26, MountKit.two(2049))), 2);
         CheckKit.due("2047 ids with a list of one", CheckKit.mount(ImageKit.patched(one, 26, MountKit.two(2047))), 3);

@@ -92,6 +92,23 @@ public final class TapeEdgeTest {
             CheckKit.due("a tape of " + size + " is read", x.keep(0), size);
             CheckKit.due("and used up", x.keep(0), 0);
         }
+        // Each call that reads it, with the longest tape there is: it is no name, and no path to anything.
+        for (int kind = 1; kind <= 7; kind++) {
+            CheckKit.due("make of kind " + kind, tapeOf(16384).make(0, kind, 0), BAD);
+        }
+        CheckKit.due("tie", tapeOf(16384).tie(0, 0), BAD);
+        CheckKit.due("drop", tapeOf(16384).drop(0), BAD);
+        FrozenVolume y = tapeOf(16384);
+        y.freeze(12, 0, 0);
+        y.mount();
+        CheckKit.due("find", y.find(1), NONE);
+        CheckKit.make(y, 0, 2, "f");
+        feed(y);
+        y.end(4);
+        for (int i = 0; i < 819; i++) {
+            feed(y);
+        }
+        CheckKit.due("write", y.write(1), 16384);
     }
 
     private static void fullChangesNothing() {

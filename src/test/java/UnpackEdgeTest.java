@@ -556,6 +556,26 @@ public final class UnpackEdgeTest {
         first.tellers[17] = 0;
         first.told.set(0, new int[] {16, 0, 2});
         bad("a 16 as the first", first.packed(row), 1);
+        // Were it taken for three lengths 0, all would be well: it is, where these are told one by one.
+        byte[] three = {3};
+        for (int told = 0; told <= 1; told++) {
+            Made only = new Made();
+            only.tellers[16] = 2;
+            only.tellers[17] = 0;
+            only.told.clear();
+            for (int i = 0; i < 3 * told; i++) {
+                only.tell(0);
+            }
+            if (told == 0) {
+                only.tell(16, 0, 2);
+            }
+            only.tell(1);
+            only.tell(18, 127, 7);
+            only.tell(18, 103, 7);
+            only.tell(1);
+            only.tell(0);
+            CheckKit.due("three lengths at first, " + (told == 0 ? "by a 16" : "one by one"), mount(only.packed(three), 1), told == 0 ? 8 : 0);
+        }
         Made zeros = new Made();
         zeros.tellers[16] = 2;
         zeros.tellers[17] = 0;
