@@ -16,6 +16,9 @@ public final class WildTest {
             wildBytes(new Random(seed));
         }
         sameAgain();
+        for (int state = 0; state < 5; state++) {
+            extremes(state);
+        }
         CheckKit.finish("WildTest");
     }
 
@@ -107,6 +110,47 @@ public final class WildTest {
         random.nextBytes(bytes);
         CheckKit.setImage(x, bytes);
         CheckKit.due("mount of wild bytes", x.mount(), 1);
+    }
+
+    /** New; with a tree; frozen; mounted; with a fault. */
+    private static FrozenVolume inState(int state) {
+        FrozenVolume x = new FrozenVolume();
+        for (int kind = 1; kind <= 7 && state > 0; kind++) {
+            CheckKit.make(x, 0, kind, -1, kind == 3 ? "3\0to" : "" + kind);
+        }
+        x.fill(2, 1, 5000);
+        if (state > 1) {
+            x.freeze(12, 8, -1);
+        }
+        if (state == 3) {
+            x.mount();
+        }
+        if (state == 4) {
+            x.patch(200, 77);
+            x.mount();
+        }
+        x.feed(-1, 0, 0x2f2e2e2f, 1, 2);
+        return x;
+    }
+
+    /** Each call with the least and the greatest numbers there are, and those at the edges of an int's parts. */
+    private static void extremes(int state) {
+        int[] all = {Integer.MIN_VALUE, Integer.MIN_VALUE + 1, -65536, -4097, -2, -1, 0, 1, 2, 3, 8, 12, 16, 255, 256, 4095, 4096, 8191, 8192,
+            16384, 65535, 65536, 131071, 131072, 1 << 24, 1 << 28, 1 << 29, 1 << 30, Integer.MAX_VALUE - 1, Integer.MAX_VALUE};
+        for (int a : all) {
+            FrozenVolume x = inState(state);
+            long alone = x.feed(a, a, a, a, a) + x.end(a) + x.outWord(a) + x.drop(a) + x.write(a) + x.imageWord(a) + x.keep(a) + x.find(a)
+                    + x.target(a) + x.place(a);
+            for (int b : all) {
+                x = inState(state);
+                long two = x.tie(a, b) + x.about(a, b) + x.entry(a, b) + x.patch(a, b) + x.mount() + x.out() + x.image() + x.astray();
+                for (int c : new int[] {Integer.MIN_VALUE, -1, 0, 1, 7, Integer.MAX_VALUE}) {
+                    two += x.make(a, b, c) + x.make(c, a, b) + x.fill(a, b, c) + x.fill(c, a, b) + x.own(a, b, c, c, c) + x.freeze(a, b, c)
+                            + x.read(a, b, c) + x.read(c, a * 4294967297L, b) + x.read(c, Long.MIN_VALUE + a, b) + x.read(2, Long.MAX_VALUE - b, a);
+                }
+                CheckKit.due("answers that are not far below 0", two > -1000 && alone != Long.MIN_VALUE ? 1 : 0, 1);
+            }
+        }
     }
 
     /** The same calls always give the same answers. */
