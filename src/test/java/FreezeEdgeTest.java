@@ -19,6 +19,7 @@ public final class FreezeEdgeTest {
         numbers();
         ids();
         sharedData();
+        sharedFragments();
         restsInFragments();
         restsWithoutFragments();
         blocksAtMost();
@@ -312,6 +313,27 @@ public final class FreezeEdgeTest {
             CheckKit.due("the same", x.place(10), x.place(2));
             for (int i = 1; i <= 4; i++) {
                 CheckKit.due("another, f" + i, x.place(2 + i) == x.place(2) ? 1 : 0, 0);
+            }
+        }
+    }
+
+    /** The second of them is in the second fragment, behind another rest, and so are those that share it. */
+    private static void sharedFragments() {
+        CheckKit.sentence(12, "shares begin, block numbers, fragment and offset with that.");
+        int[] sizes = {3000, 1500, 5000, 700, 100, 8192 + 9};
+        FreezeKit kit = new FreezeKit();
+        for (int i = 0; i < 3 * sizes.length; i++) {
+            int which = i % sizes.length;
+            kit.make(0, 2, 0, "f" + (10 + i), "");
+            kit.write(i + 1, PackKit.sample(new Random(which), which % 6, sizes[which]));
+        }
+        for (int options = 0; options < 8; options++) {
+            kit.check("files that are there three times", 12, options, 0);
+            for (int i = 0; i < 3 * sizes.length; i++) {
+                int which = i % sizes.length;
+                CheckKit.due("the same place", kit.volume.place(2 + i), kit.volume.place(2 + which));
+                CheckKit.due("read", kit.volume.read(2 + i, 0, 16384), sizes[which]);
+                CheckKit.due("the same bytes", CheckKit.out(kit.volume), PackKit.sample(new Random(which), which % 6, sizes[which]));
             }
         }
     }

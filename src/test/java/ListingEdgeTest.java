@@ -12,6 +12,7 @@ public final class ListingEdgeTest {
         offsets();
         offsetsAtAPiecesEnd();
         withinTheRow();
+        withinTheRowOfThisImage();
         threeBytesLess();
         endsBehindAnEntry();
         headersTell();
@@ -137,6 +138,19 @@ public final class ListingEdgeTest {
         byte[] cut = Arrays.copyOf(row, 21);
         MountKit.mounts("a name whose last byte is behind the row", withListing(1, cut, 0, 0, 22), 6);
         MountKit.mounts("the same, and the listing ends before", withListing(1, cut, 0, 0, 21), 6);
+    }
+
+    /** What an image that was mounted before had there is not in the row. */
+    private static void withinTheRowOfThisImage() {
+        CheckKit.sentence(18, "the listing is within the row");
+        byte[] row = ImageKit.join(new byte[50], one("ff"));
+        FrozenVolume x = new FrozenVolume();
+        for (int cut : new int[] {0, 1, 2, 3, 10, 22}) {
+            CheckKit.setImage(x, withListing(1, row, 0, 50, 22).image());
+            CheckKit.due("mount of the whole row", x.mount(), 0);
+            CheckKit.setImage(x, withListing(1, Arrays.copyOf(row, row.length - cut), 0, 50, 22).image());
+            CheckKit.due("mount of the row without " + cut + " bytes", x.mount(), cut == 0 ? 0 : 6);
+        }
     }
 
     private static void threeBytesLess() {

@@ -375,6 +375,19 @@ public final class PackEdgeTest {
             row("a last part, " + k, lastPart(k));
         }
         CheckKit.dueMet("bits that another sort takes more than stored:", -1, 0, 1);
+        // Seeds whose parts made takes from 1 bit less to 1 bit more than stored, and fixed more than both.
+        for (int k : new int[] {713, 815, 820, 936, 955, 1575, 1640, 1753, 2361, 2377, 2488, 2490}) {
+            Random random = new Random(k);
+            byte[] row = new byte[300 + random.nextInt(900)];
+            int kinds = 150 + random.nextInt(100);
+            for (int i = 0; i < row.length; i++) {
+                row[i] = (byte) random.nextInt(kinds);
+            }
+            row("bytes of " + kinds + " kinds", row);
+            // Behind a first part, which packing makes shorter in any case, the last one shows its sort.
+            row("the same behind others", FreezeKit.join(new byte[4096], row));
+        }
+        CheckKit.dueMet("bits that made takes more than stored, and fixed more than both:", -1, 0, 1);
     }
 
     private static void storedAtEveryBit() {

@@ -377,6 +377,9 @@ final class PackKit {
             if (least < stored.bits.length()) {
                 CheckKit.met("bits that made takes more than fixed:", made.bits.length() - fixed.bits.length());
             }
+            if (fixed.bits.length() > Math.max(made.bits.length(), stored.bits.length())) {
+                CheckKit.met("bits that made takes more than stored, and fixed more than both:", made.bits.length() - stored.bits.length());
+            }
             CheckKit.met("bytes of a part:", end - p);
             CheckKit.met("bits of a byte before a stored part:", stored.bits.length() <= least ? all.bits.length() % 8 : 9);
             all = stored.bits.length() <= least ? stored : fixed.bits.length() <= least ? fixed : made;

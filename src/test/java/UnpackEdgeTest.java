@@ -255,10 +255,16 @@ public final class UnpackEdgeTest {
             int size = Math.min(n, 65536);
             CheckKit.due(n + " bytes, stored", mount(wrap(stored, new byte[n]), size), n <= 65536 ? 0 : 8);
             CheckKit.due(n + " bytes, one by one", mount(wrap(one, new byte[n]), size), n <= 65536 ? 0 : 8);
+            if (n > 65536) {
+                // The check is of as many bytes as there may be: those behind them are a fault by themselves.
+                bad("one stored byte too many, which the check leaves out", wrap(stored, new byte[65536]), 65536);
+                bad("one byte too many, which the check leaves out", wrap(one, new byte[65536]), 65536);
+            }
             if (left >= 3) {
                 PackKit.Bits match = manyZeros();
                 match.bits.append(fixed(new int[] {254 + left, 0, 0, 0, 0, 0}, new int[] {256}).bits);
                 CheckKit.due(n + " bytes, by a match", mount(wrap(match, new byte[n]), size), n <= 65536 ? 0 : 8);
+                CheckKit.due("the same with a check of 65536", mount(wrap(match, new byte[65536]), size), n <= 65536 ? 0 : 8);
             }
         }
         int[][] zeros = new int[234][];
