@@ -290,6 +290,10 @@ public final class InodeEdgeTest {
                 one.log = log;
                 MountKit.withRoot(one, one.addLongFile(2, 0, -1, 0, size, 1, 0), 2);
                 MountKit.mounts("size " + size, one, 5);
+                ImageKit none = new ImageKit();
+                none.log = log;
+                MountKit.withRoot(none, none.addLongFile(2, 0, -1, 0, size, 1), 2);
+                MountKit.mounts("size " + size + " without block numbers", none, 5);
             }
             // The greatest size whose block numbers are in a row with the root's inode and none else.
             int blocks = (65536 - 56 - 32) / 4;

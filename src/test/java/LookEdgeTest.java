@@ -479,6 +479,7 @@ public final class LookEdgeTest {
             }
             CheckKit.due("read the last byte but one", x.read(3, 4092, 2), 2);
             CheckKit.due("its bytes", CheckKit.out(x), Arrays.copyOfRange(bytes, 4093, 4095));
+            CheckKit.due("place of the next", x.place(5), options == 0 ? x.imageWord(8) - 4 : 96 + 4096);
             CheckKit.due("read of the next", x.read(5, 1, 9), 3);
             CheckKit.due("its bytes", CheckKit.out(x), CheckKit.bytes("ext"));
         }
@@ -549,6 +550,17 @@ public final class LookEdgeTest {
         x.mount();
         CheckKit.due("a short block of zeros", x.place(5), 0);
         CheckKit.due("a short block behind one of zeros", x.place(7), 96 + 1 + 4096);
+        FrozenVolume many = new FrozenVolume();
+        for (int i = 0; i < 5; i++) {
+            CheckKit.make(many, 0, 2, "f" + i);
+            many.fill(i + 1, i + 1, 3000 + i);
+        }
+        many.freeze(12, 2, 0);
+        CheckKit.due("mount", many.mount(), 0);
+        for (int i = 0, at = 96; i < 5; i++) {
+            CheckKit.due("place of fragment " + i, many.place(i + 2), at);
+            at += 3000 + i;
+        }
     }
 
     private static void placeRefused() {

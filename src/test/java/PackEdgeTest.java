@@ -29,6 +29,7 @@ public final class PackEdgeTest {
         stretchesOf0();
         stretchesOfOthers();
         storedIfNoMore();
+        bitsBehindMatches();
         storedAtEveryBit();
         fixedIfNoMore();
         checks();
@@ -388,6 +389,23 @@ public final class PackEdgeTest {
             row("the same behind others", FreezeKit.join(new byte[4096], row));
         }
         CheckKit.dueMet("bits that made takes more than stored, and fixed more than both:", -1, 0, 1);
+    }
+
+    /** Last parts with matches far away, whose many bits more are among those that a part takes. */
+    private static void bitsBehindMatches() {
+        begin("A part is stored, if that takes no more bits (its first three and those up to the end of a byte among them) than the others");
+        for (int k = 0; k < 160; k++) {
+            Random random = new Random(k);
+            byte[] row = new byte[4096 + 30 + random.nextInt(20)];
+            for (int i = 0; i < row.length; i++) {
+                row[i] = (byte) (144 + random.nextInt(112));
+            }
+            for (int i = 0; i <= k % 3; i++) {
+                System.arraycopy(row, random.nextInt(2000), row, 4096 + random.nextInt(row.length - 4096 - 3), 3);
+            }
+            row("a last part with matches, " + k, row);
+        }
+        CheckKit.dueMet("bits that another sort takes more than stored, with matches far away:", -1, 0, 1);
     }
 
     private static void storedAtEveryBit() {

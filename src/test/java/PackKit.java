@@ -374,6 +374,9 @@ final class PackKit {
             putMade(made, tokens);
             int least = Math.min(fixed.bits.length(), made.bits.length());
             CheckKit.met("bits that another sort takes more than stored:", least - stored.bits.length());
+            if (tokens.stream().anyMatch(token -> token[0] > 0 && token[1] > 1000)) {
+                CheckKit.met("bits that another sort takes more than stored, with matches far away:", least - stored.bits.length());
+            }
             if (least < stored.bits.length()) {
                 CheckKit.met("bits that made takes more than fixed:", made.bits.length() - fixed.bits.length());
             }
