@@ -47,14 +47,15 @@ public final class DataEdgeTest {
         }
         int files = blocks + (more > 0 ? 1 : 0);
         byte[] told = new byte[0];
-        // The files have the numbers from 1 on, the root has the last one: all of them count.
+        // The root has the number 2, files have the first and the last one: all of them count.
         for (int i = 0; i < files; i++) {
-            int at = i < blocks ? many.addFile(1 + i, begin, -1, 0, 1 << log, packed.length)
-                    : many.addFile(1 + i, begin + packed.length, -1, 0, more, more + AS_IS);
-            told = ImageKit.join(told, ImageKit.head(1, at, 1 + i), ImageKit.entry(at, 0, 2, "n" + (10000 + i)));
+            int number = i == 0 ? 1 : 2 + i;
+            int at = i < blocks ? many.addFile(number, begin, -1, 0, 1 << log, packed.length)
+                    : many.addFile(number, begin + packed.length, -1, 0, more, more + AS_IS);
+            told = ImageKit.join(told, ImageKit.head(1, at, number), ImageKit.entry(at, 0, 2, "n" + (10000 + i)));
         }
         many.addListing(told);
-        many.root = ImageKit.reference(many.addFolder(files + 1, 0, told.length, 2, files + 2));
+        many.root = ImageKit.reference(many.addFolder(2, 0, told.length, 2, files + 2));
         return many;
     }
 

@@ -13,6 +13,7 @@ public final class InodeEdgeTest {
         fragmentPlaces();
         inodesFillTheirRow();
         inodesCutShort();
+        inodesCutShortAtTheMost();
         types();
         modes();
         ownersAndGroups();
@@ -151,6 +152,30 @@ public final class InodeEdgeTest {
                 byte[] row = last.inodes.toByteArray();
                 last.inodePieces = ImageKit.join(two(32768 + row.length - cut), Arrays.copyOf(row, row.length - cut));
                 MountKit.mounts("type " + type + ", " + cut + " bytes cut off", last, 5);
+            }
+        }
+    }
+
+    /** The same where the row has as many bytes as it may have: what is missing is nowhere. */
+    private static void inodesCutShortAtTheMost() {
+        CheckKit.sentence(18, "they fill their row just");
+        for (int type = 1; type <= 14; type++) {
+            byte[] body = MountKit.body(type);
+            int whole = 16 + body.length;
+            for (int cut : new int[] {0, 1, 2, 3, 4, 5, 8, 12, whole / 2, whole - 13, whole - 3, whole - 1}) {
+                ImageKit one = new ImageKit();
+                one.addFolder(1, 0, 0, 2, 7);
+                int left = 65536 - 32 - (whole - cut) - 4 * 24;
+                for (int i = 0; i < 4; i++) {
+                    int n = i < 3 ? 16384 : left - 3 * 16384;
+                    one.addInode(3, 2 + i, four(1), four(n), new byte[n]);
+                }
+                one.addInode(type, 6, body);
+                byte[] row = Arrays.copyOf(one.inodes.toByteArray(), 65536);
+                one.inodes.reset();
+                one.inodes.writeBytes(row);
+                // No entry leads to these inodes: with a whole row that is another fault.
+                MountKit.mounts("type " + type + ", " + cut + " bytes cut off a full row", one, cut == 0 ? 7 : 5);
             }
         }
     }

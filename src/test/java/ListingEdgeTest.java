@@ -13,6 +13,7 @@ public final class ListingEdgeTest {
         offsetsAtAPiecesEnd();
         withinTheRow();
         withinTheRowOfThisImage();
+        withinTheLongestRow();
         threeBytesLess();
         endsBehindAnEntry();
         headersTell();
@@ -150,6 +151,17 @@ public final class ListingEdgeTest {
             CheckKit.due("mount of the whole row", x.mount(), 0);
             CheckKit.setImage(x, withListing(1, Arrays.copyOf(row, row.length - cut), 0, 50, 22).image());
             CheckKit.due("mount of the row without " + cut + " bytes", x.mount(), cut == 0 ? 0 : 6);
+        }
+    }
+
+    private static void withinTheLongestRow() {
+        CheckKit.sentence(18, "the listing is within the row");
+        for (int cut = 0; cut <= 22; cut++) {
+            byte[] listing = Arrays.copyOf(one("ff"), 22 - cut);
+            byte[] row = ImageKit.join(new byte[65536 - listing.length], listing);
+            int at = Math.min(65535, 65536 - listing.length);
+            ImageKit one = withListing(1, row, ImageKit.start(at), at % 8192, 22);
+            MountKit.mounts("a listing that ends " + cut + " bytes behind a row of 65536", one, cut == 0 ? 0 : 6);
         }
     }
 

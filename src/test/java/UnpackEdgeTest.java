@@ -849,6 +849,12 @@ public final class UnpackEdgeTest {
             bad("stored, cut at " + n, Arrays.copyOf(stored, n), 6);
         }
         bad("no 256", wrap(fixed(new int[] {7}), same(7, 1)), 1);
+        // A stored part whose bytes would go on behind the longest image there is.
+        ImageKit far = new ImageKit();
+        far.log = 16;
+        far.addData(new byte[120000]);
+        byte[] cut = Arrays.copyOf(wrap(stored(1, new byte[60000], 0), new byte[60000]), 40);
+        MountKit.mounts("stored, cut near an image's end", MountKit.withFile(far, far.addData(cut), -1, 0, 60000, cut.length), 8);
     }
 
     private static void bitsToTheByteEnd() {
