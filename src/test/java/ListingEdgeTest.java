@@ -360,6 +360,14 @@ public final class ListingEdgeTest {
         SAMPLE.folder("the last place of a piece", 6, at, two(8191));
         SAMPLE.folder("one more than a piece has", 6, at, two(8192));
         SAMPLE.folder("the last that can be told", 6, at, two(65535));
+        // The same with a file that has the number 1; the root has 2.
+        for (int place : new int[] {0, 1, 31, 32, 63, 64, 8191, 8192, 65535}) {
+            ImageKit one = new ImageKit();
+            one.addFile(1, 0, -1, 0, 0);
+            int told = one.addListing(ImageKit.head(1, 0, 1), two(place), two(0), two(2), two(0), CheckKit.bytes("f"));
+            one.root = ImageKit.reference(one.addFolder(2, told, 21, 2, 3));
+            MountKit.mounts("number 1 at place " + place, one, place == 0 ? 0 : 6);
+        }
     }
 
     private static void numbers() {
