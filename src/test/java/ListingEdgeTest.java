@@ -114,6 +114,14 @@ public final class ListingEdgeTest {
         // What follows in the row's last bytes is too short for a listing; the offset alone would hold up to 70.
         MountKit.mounts("offset 70 for one byte", withListing(1, row, 0, 70, 1), 6);
         MountKit.mounts("offset 71 for no byte", withListing(0, row, 0, 71, 0), 7);
+        // An offset that is too great leads nowhere, wherever in the row a listing is.
+        for (int place = 0; place <= 3; place++) {
+            byte[] early = ImageKit.join(new byte[place], one("f"));
+            for (int offset : new int[] {place, 21 + place, 22 + place, 8192 + place, 65535}) {
+                ImageKit kit = withListing(1, early, 0, offset, 21);
+                MountKit.mounts("offset " + offset + ", the listing being at " + place, kit, offset == place ? 0 : 6);
+            }
+        }
     }
 
     private static void offsetsAtAPiecesEnd() {

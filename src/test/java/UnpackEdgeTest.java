@@ -183,6 +183,20 @@ public final class UnpackEdgeTest {
             }
             CheckKit.due("six bytes, told to be " + n, mount(wrap(other, row), 6), n == 6 ? 0 : 8);
         }
+        // Where the two numbers are all that could be wrong: none of the bytes that they tell is missing or left.
+        for (int[] two : new int[][] {{0, 65535}, {0, 65534}, {0, 0}, {1, 65535}, {65535, 65535}, {65535, 1}, {65535, 0}}) {
+            for (int last = 0; last <= 1; last++) {
+                PackKit.Bits empty = stored(0, row, 0);
+                empty.number(last, 3);
+                empty.align(0);
+                empty.number(two[0], 16);
+                empty.number(two[1], 16);
+                if (last == 0) {
+                    empty.bits.append(stored(1, new byte[0], 0).bits);
+                }
+                CheckKit.due("none of bytes, told by " + two[0] + " and " + two[1], mount(wrap(empty, row), 6), two[1] - two[0] == 65535 ? 0 : 8);
+            }
+        }
     }
 
     private static void lastParts() {
