@@ -856,6 +856,7 @@ public final class FrozenVolume {
     /** Makes packed rows. */
     private static final class Packer {
         private static final int PART = 4096, FAR = 32768, LONGEST = 258, CANDIDATES = 16, LISTED = 572;
+        private static final int NO_PAIR = 2147483647;
 
         final Row packed = new Row(BLOCK + 256);
         private final int[] heads = new int[32768];
@@ -1076,7 +1077,7 @@ public final class FrozenVolume {
             int single = 0;
             for (int i = 0; i < size; i++) {
                 int pair = 2 * (i - single);
-                int both = pair + 1 < sizeBefore ? weights[last + pair] + weights[last + pair + 1] : Integer.MAX_VALUE;
+                int both = pair + 1 < sizeBefore ? weights[last + pair] + weights[last + pair + 1] : NO_PAIR;
                 boolean isPair = single == m || both < counts[ranked[single]];
                 pairs[list * LISTED + i] = isPair;
                 weights[here + i] = isPair ? both : counts[ranked[single]];
@@ -2126,9 +2127,9 @@ public final class FrozenVolume {
 
     /** The listings of a mounted image: a walk through one of them, and what the walks through all have counted. */
     private static final class Listings {
+        final Inodes inodes = new Inodes();
         final PieceRow pieces = new PieceRow(ROW);
         final Row row = pieces.row;
-        private final Inodes inodes;
         private int begin;
         private int at;
         private int stop;
@@ -2143,10 +2144,6 @@ public final class FrozenVolume {
         private final int[] homes = new int[TABLE + 1];
         final int[] entries = new int[TABLE + 1];
         private final int[] folders = new int[TABLE + 1];
-
-        Listings(Inodes inodes) {
-            this.inodes = inodes;
-        }
 
         /** Goes before the first entry of a directory: false if its listing does not begin or end in the row. */
         boolean open(int number) {
@@ -2312,8 +2309,8 @@ public final class FrozenVolume {
         private static final int BROKEN = -1;
 
         final Row image = new Row(IMAGE);
-        final Inodes inodes = new Inodes();
-        final Listings listings = new Listings(inodes);
+        final Listings listings = new Listings();
+        final Inodes inodes = listings.inodes;
         private final PieceRow fragments = new PieceRow(16 * TABLE);
         private final PieceRow exports = new PieceRow(8 * TABLE);
         private final PieceRow ids = new PieceRow(4 * TABLE);
