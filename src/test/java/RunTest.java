@@ -2,7 +2,10 @@ import java.util.Arrays;
 import java.util.List;
 import java.util.Random;
 
-/** All promises: runs of at most 512 calls, each of which must answer as the plain second class does. */
+/**
+ * All promises: runs of up to 512 calls, each of which must answer as the plain second class does.
+ * Looks at all bytes and all inodes come between them; these change nothing but the out, and are not counted.
+ */
 public final class RunTest {
     private static final int MOST = 512;
     private static final String[] NAMES = {"a", "b", "c", "ab", "a b", "..", ".", "...", "", "a\0b", "x/y", "\u00ff", "\u0001", "\u0080z"};
